@@ -871,9 +871,6 @@ public final class FeltGlass {
         void clear() {
             size = 0;
             Arrays.fill(spotOf, NONE);
-            for (int cell = 0; cell < MOST_CELLS; cell++) {
-                inSpot[cell] = false;
-            }
         }
 
         void choose(Hills hills, int[] delta, int minimumPeak) {

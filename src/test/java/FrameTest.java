@@ -20,6 +20,7 @@ public final class FrameTest {
         minimumPeak();
         sixSpots();
         equalMasses();
+        sixteenHills();
         positionTruncated();
         reach();
         mostPairs();
@@ -292,6 +293,34 @@ public final class FrameTest {
         x.frames(1);
         int[] peaks = {0, 2, 4, 6, 16, 34};
         for (int i = 0; i < 6; i++) due("peak of equal masses", x.spot(i, 0), peaks[i]);
+    }
+
+    /** As many hills as a panel can have, apart and then all merged. */
+    private static void sixteenHills() {
+        FeltGlass x = still(8, 8);
+        for (int y = 0; y < 8; y += 2) {
+            for (int column = 0; column < 8; column += 2) raise(x, 8 * y + column, 60);
+        }
+        x.frames(1);
+        int[] peaks = {0, 2, 4, 6, 16, 18};
+        for (int i = 0; i < 6; i++) due("peak of sixteen", x.spot(i, 0), peaks[i]);
+        due("six tracks", x.about(6), 6);
+        for (int cell = 0; cell < 64; cell++) {
+            if (cell / 8 % 2 == 1 || cell % 2 == 1) raise(x, cell, 30);
+        }
+        x.frames(1);
+        due("all touched, six spots", x.about(5), 6);
+        x.bound(VALLEY, 51);
+        x.frames(1);
+        due("not merged", x.about(5), 6);
+        raise(x, 54, 61);
+        x.bound(VALLEY, 50);
+        x.frames(1);
+        due("all merged", x.about(5), 1);
+        due("peak of all", x.spot(0, 0), 54);
+        due("size of all", x.spot(0, 1), 64);
+        due("mass of all", x.spot(0, 2), 16 * 60 + 48 * 30 + 1);
+        due("no quiet cells", x.about(3), 0);
     }
 
     private static void positionTruncated() {
