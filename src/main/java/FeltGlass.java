@@ -477,7 +477,10 @@ public final class FeltGlass {
             return true;
         }
 
-        /** Answers NONE if no such number stands here; the place is then at the fault. */
+        /**
+         * Answers NONE if no such number stands here; the place is then at the fault. Whether a number is too small
+         * shows only where it ends, so that the fault of one, of 0 too, is the sign after it.
+         */
         private int readNumber(int least, int most) {
             int value = NONE;
             for (int digits = 0; digits < PAGE_ROOM; digits++) {
@@ -485,9 +488,8 @@ public final class FeltGlass {
                 if (digit == NONE) {
                     break;
                 }
-                boolean leadingZero = value == 0 || value == NONE && digit == 0 && least > 0;
                 int longer = value == NONE ? digit : 10 * value + digit;
-                if (leadingZero || longer > most) {
+                if (value == 0 || longer > most) {
                     return NONE;
                 }
                 value = longer;

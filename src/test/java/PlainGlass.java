@@ -80,7 +80,7 @@ final class PlainGlass {
             boolean last = i == parts.length - 1;
             if (!begins(parts[i], List.of(numbers(0, 4), List.of("-")), 0, last)
                     && !begins(parts[i], List.of(numbers(0, 4), List.of("@"), numbers(0, 2 * w - 2), List.of(","),
-                        numbers(0, 2 * h - 2), List.of("*"), numbers(10, 250)), 0, last)) {
+                        numbers(0, 2 * h - 2), List.of("*"), powers(last)), 0, last)) {
                 return false;
             }
         }
@@ -100,6 +100,13 @@ final class PlainGlass {
     private static List<String> numbers(int least, int most) {
         List<String> all = new ArrayList<>();
         for (int n = least; n <= most; n++) all.add(Integer.toString(n));
+        return all;
+    }
+
+    /** A power that is too small may stand as long as nothing comes after it: 1 to 9 begin greater ones, 0 none. */
+    private static List<String> powers(boolean cut) {
+        List<String> all = numbers(10, 250);
+        if (cut) all.add("0");
         return all;
     }
 

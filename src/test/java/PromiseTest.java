@@ -10,6 +10,7 @@ public final class PromiseTest {
         blank();
         fault();
         faultInNumbers();
+        faultInSmallPowers();
         fingers();
         glass();
         air();
@@ -130,8 +131,6 @@ public final class PromiseTest {
         Checks.fault(x, "0@01", 3);
         Checks.fault(x, "0@0,00", 5);
         Checks.fault(x, "0@-1", 2);
-        Checks.fault(x, "0@0,0*0", 6);
-        Checks.fault(x, "0@0,0*010", 6);
         Checks.fault(x, "0@0,0*1", 7);
         Checks.fault(x, "0@0,0*1;", 7);
         Checks.fault(x, "0@0,0*9;1-", 7);
@@ -148,6 +147,26 @@ public final class PromiseTest {
         Checks.fault(x, "0@5,1*250", 2);
     }
 
+    /** The sign after a power below 10, or the end of the page, is the fault; 0 is such a power as well. */
+    private static void faultInSmallPowers() {
+        FeltGlass x = Checks.panel(3, 3);
+        for (int power = 0; power <= 9; power++) {
+            String text = "0@0,0*" + power;
+            Checks.fault(x, text, 7);
+            for (String after : new String[] {";", ";1-", "-", "@", ",", "*", " ", "x"}) {
+                Checks.fault(x, text + after, 7);
+            }
+            Checks.fault(x, "3-;" + text, 10);
+            Checks.fault(x, "4@4,4*250;" + text + ";3-", 17);
+        }
+        for (int digit = 0; digit <= 9; digit++) {
+            Checks.fault(x, "0@0,0*0" + digit, 7);
+            Checks.fault(x, "0@0,0*0" + digit + "0;1-", 7);
+        }
+        Checks.fault(x, "0-;0-;0-;0-;0-;0-;0-;0-;0-;0-;0-;0@0,0*0", 40);
+        Checks.fault(x, "0-;0-;0-;0-;0-;0-;0-;0-;0-;0-;0@0,0*0;0-", 37);
+    }
+
     private static void fingers() {
         due("fingers without panel", new FeltGlass().fingers(), STATE);
         FeltGlass x = Checks.panel(8, 8);
@@ -156,6 +175,10 @@ public final class PromiseTest {
         Checks.refuses(x, "0-;");
         Checks.refuses(x, "0@0,0*");
         Checks.refuses(x, "0@0,0*9");
+        Checks.refuses(x, "0@0,0*0");
+        Checks.refuses(x, "0@0,0*0;1-");
+        Checks.refuses(x, "0@0,0*010");
+        Checks.refuses(x, "1-;0@0,0*0");
         Checks.refuses(x, "1@2,2*50;0@0,0*9");
         Checks.refuses(x, "1@2,2*50x");
         due("refused text put no finger", x.finger(1, 0), 0);

@@ -101,7 +101,8 @@ public final class RandomRunsTest {
         String digit = String.valueOf(between(0, random.nextInt(10) == 0 ? 5 : 4));
         if (random.nextInt(4) == 0) return digit + "-";
         int most = random.nextInt(10) == 0 ? 15 : 2 * Math.max(3, plain.w) - 2;
-        int power = random.nextInt(10) == 0 ? between(0, 260) : between(30, 250);
+        int dice = random.nextInt(20);
+        int power = dice == 0 ? between(0, 260) : dice == 1 ? between(0, 10) : between(30, 250);
         return digit + "@" + between(0, most) + "," + between(0, 2 * Math.max(3, plain.h) - 2) + "*" + power;
     }
 
