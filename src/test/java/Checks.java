@@ -3,16 +3,26 @@ final class Checks {
     static final int NONE = -1, UNKNOWN = -10001, OUTSIDE = -10002, STATE = -10003, FULL = -10004;
     private static int wrong;
     private static int made;
+    private static String sentence = "";
 
     private Checks() {
+    }
+
+    /** Names the words of the document, and where they stand, that the following checks are about. */
+    static void sentence(String where, String words) {
+        sentence = where + ", \"" + words + "\": ";
     }
 
     static void due(String call, long got, long want) {
         made++;
         if (got != want) {
             wrong++;
-            System.out.println(call + " answered " + got + ", due is " + want);
+            System.out.println(sentence + call + " answered " + got + ", due is " + want);
         }
+    }
+
+    static void holds(String what, boolean fact) {
+        due(what, fact ? 1 : 0, 1);
     }
 
     static void end() {
@@ -23,6 +33,15 @@ final class Checks {
     static FeltGlass panel(int wide, int high) {
         FeltGlass x = new FeltGlass();
         due("glass(" + wide + ", " + high + ")", x.glass(wide, high), wide * high);
+        return x;
+    }
+
+    /** A panel whose baselines stay, whose frames are hardly ever noisy and on which low valleys part the hills. */
+    static FeltGlass still(int wide, int high) {
+        FeltGlass x = panel(wide, high);
+        x.bound(7, 0);
+        x.bound(8, 200);
+        x.bound(2, 100);
         return x;
     }
 
@@ -51,8 +70,17 @@ final class Checks {
         due("blank() after " + text, x.blank(), text.length());
     }
 
-    /** Lets a cell sense that much above the first baseline of 100. */
-    static void raise(FeltGlass x, int cell, int by) {
-        x.air(cell, 100 + by);
+    /** Lets cells sense that much above the first baseline of 100: a cell, its delta, a cell, its delta, .. */
+    static void raise(FeltGlass x, int... cellsAndDeltas) {
+        for (int i = 0; i + 1 < cellsAndDeltas.length; i += 2) {
+            x.air(cellsAndDeltas[i], 100 + cellsAndDeltas[i + 1]);
+        }
+    }
+
+    /** Runs the numbers through the hash of promise 23, from a given value on. */
+    static long hash(long from, int... numbers) {
+        long h = from;
+        for (int number : numbers) h = 31 * h + number;
+        return h;
     }
 }

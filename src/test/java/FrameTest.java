@@ -44,19 +44,12 @@ public final class FrameTest {
         Checks.due(call, got, want);
     }
 
-    /** A panel whose baselines stay and on which no hills are merged. */
     private static FeltGlass still(int wide, int high) {
-        FeltGlass x = Checks.panel(wide, high);
-        x.bound(DRIFT, 0);
-        x.bound(NOISE, 200);
-        x.bound(VALLEY, 100);
-        return x;
+        return Checks.still(wide, high);
     }
 
     private static void raise(FeltGlass x, int... cellsAndDeltas) {
-        for (int i = 0; i + 1 < cellsAndDeltas.length; i += 2) {
-            Checks.raise(x, cellsAndDeltas[i], cellsAndDeltas[i + 1]);
-        }
+        Checks.raise(x, cellsAndDeltas);
     }
 
     private static void touchThreshold() {

@@ -38,11 +38,8 @@ public final class PromiseTest {
         Checks.due(call, got, want);
     }
 
-    /** Runs the numbers through the hash of promise 23, from a given value on. */
     private static long hash(long from, int... numbers) {
-        long h = from;
-        for (int number : numbers) h = 31 * h + number;
-        return h;
+        return Checks.hash(from, numbers);
     }
 
     private static FeltGlass touchedPanel() {

@@ -1,0 +1,942 @@
+/** The boundary cases that promises 1 and 6 to 23 name, a test for each sentence. */
+public final class CallEdgesTest {
+    private static final int NONE = Checks.NONE, UNKNOWN = Checks.UNKNOWN, OUTSIDE = Checks.OUTSIDE;
+    private static final int STATE = Checks.STATE;
+    private static final int LOW = Integer.MIN_VALUE, TOP = Integer.MAX_VALUE;
+    private static final int PALM = 3, REACH = 4, HOLD = 5, TAP = 6, DRIFT = 7, NOISE = 8;
+    private static final int[] FIRST_SETTINGS = {40, 20, 80, 10, 24, 1, 6, 2, 30};
+
+    public static void main(String[] args) {
+        newObject();
+        fiveHundredAndTwelveCalls();
+        glassSizes();
+        glassOutside();
+        glassInitialState();
+        glassKeeps();
+        airCells();
+        airValues();
+        airPrevious();
+        warmRange();
+        warmLimits();
+        warmChanges();
+        noiseRange();
+        noisePrevious();
+        seedRange();
+        seedPrevious();
+        boundRanges();
+        boundSettingRange();
+        settleChanges();
+        framesRange();
+        framesEvents();
+        fingerRange();
+        fingerOff();
+        cellRange();
+        cellWithoutFrame();
+        cellSpotOrNone();
+        cellDeltaBeforeTheMove();
+        cellSensesNow();
+        aboutRange();
+        aboutWithoutFrame();
+        spotRange();
+        spotWithoutTrack();
+        trackRange();
+        trackOrder();
+        asKinds();
+        asRange();
+        eventPlaces();
+        eventsOfAllPanels();
+        eventFrames();
+        eventRange();
+        countRange();
+        countsOfAllPanels();
+        eventsRange();
+        eventsEver();
+        digestWithoutPanel();
+        digestOfAllThereIs();
+        digestChangesNothing();
+        Checks.end();
+    }
+
+    private static void sentence(int promise, String words) {
+        Checks.sentence("Promise " + promise, words);
+    }
+
+    private static void due(String call, long got, long want) {
+        Checks.due(call, got, want);
+    }
+
+    private static FeltGlass touchedPanel(int wide, int high, int cell) {
+        FeltGlass x = Checks.still(wide, high);
+        Checks.raise(x, cell, 50);
+        return x;
+    }
+
+    // ---- Promise 1: a new object
+
+    private static void newObject() {
+        sentence(1, "Creates an object without a panel, with an empty page and no events.");
+        FeltGlass x = new FeltGlass();
+        due("about(0)", x.about(0), STATE);
+        due("cell(0, 0)", x.cell(0, 0), UNKNOWN);
+        due("spot(0, 0)", x.spot(0, 0), UNKNOWN);
+        due("track(0, 0)", x.track(0, 0), UNKNOWN);
+        due("event(0, 0)", x.event(0, 0), UNKNOWN);
+        due("blank()", x.blank(), 0);
+        for (int what = 0; what <= 5; what++) due("count " + what, x.count(what), 0);
+        for (int sort = 1; sort <= 4; sort++) due("events " + sort, x.events(sort), 0);
+        FeltGlass busy = Busy.panel();
+        due("a panel of one object", busy.about(0), 5);
+        due("is no panel of another", new FeltGlass().about(0), STATE);
+        due("events of one are no events of another", new FeltGlass().event(0, 0), UNKNOWN);
+    }
+
+    private static void fiveHundredAndTwelveCalls() {
+        Checks.sentence("What it is", "An object is used for at most 512 calls after it has been made");
+        int frames = 20 * 509;
+        due("frames on all panels, by the 512th call", manyFrames(50).count(1), frames);
+        due("the age, by the 512th call", manyFrames(50).track(0, 5), frames);
+        due("frames on this panel, by the 512th call", manyFrames(0).about(8), frames);
+        due("noisy frames, by the 512th call", manyFrames(-31).count(2), frames);
+        due("the drive, by the 512th call", manyFrames(-31).about(2), frames % 3);
+        FeltGlass pages = new FeltGlass();
+        for (int call = 1; call < 512; call++) pages.letter(65);
+        due("the 512th letter", pages.letter(65), Checks.FULL);
+        FeltGlass panels = new FeltGlass();
+        for (int call = 1; call < 512; call++) panels.glass(8, 8);
+        due("the 512th call after 511 panels", panels.count(5), 511);
+    }
+
+    /** 511 calls: a panel, a background, and 509 times 20 frames. */
+    private static FeltGlass manyFrames(int delta) {
+        FeltGlass x = new FeltGlass();
+        x.glass(3, 3);
+        x.air(4, 100 + delta);
+        for (int call = 3; call <= 511; call++) x.frames(20);
+        return x;
+    }
+
+    // ---- Promise 6: glass
+
+    private static void glassSizes() {
+        sentence(6, "Returns the number of cells");
+        for (int wide = 3; wide <= 8; wide++) {
+            for (int high = 3; high <= 8; high++) {
+                FeltGlass x = new FeltGlass();
+                due("glass(" + wide + ", " + high + ")", x.glass(wide, high), wide * high);
+                due("W", x.about(0), wide);
+                due("H", x.about(1), high);
+                due("the last cell", x.cell(wide * high - 1, 0), 100);
+                due("the cell after it", x.cell(wide * high, 0), UNKNOWN);
+            }
+        }
+        FeltGlass x = new FeltGlass();
+        x.glass(8, 8);
+        x.glass(3, 3);
+        due("a cell of the larger panel before", x.cell(9, 0), UNKNOWN);
+        x.glass(8, 8);
+        due("a cell of the larger panel again", x.cell(63, 0), 100);
+    }
+
+    private static void glassOutside() {
+        sentence(6, "OUTSIDE if an argument is out of range.");
+        int[] wrong = {2, 9, 1, 0, -1, -3, 11, LOW, TOP, 256 + 3, 65536 + 3};
+        for (int side : wrong) {
+            for (int other : new int[] {3, 8, side}) {
+                FeltGlass x = new FeltGlass();
+                due("glass(" + side + ", " + other + ")", x.glass(side, other), OUTSIDE);
+                due("glass(" + other + ", " + side + ")", x.glass(other, side), OUTSIDE);
+                due("no panel", x.about(0), STATE);
+                due("no panel was created", x.count(5), 0);
+            }
+        }
+        FeltGlass x = Checks.panel(4, 5);
+        due("glass(2, 8) on a panel", x.glass(2, 8), OUTSIDE);
+        due("the panel stays", x.about(0), 4);
+        due("panels", x.count(5), 1);
+    }
+
+    private static void glassInitialState() {
+        sentence(6, "All of it is in the initial state, without frames, spots and tracks.");
+        FeltGlass x = Busy.panel(), fresh = Checks.panel(5, 5);
+        x.air(3, 999);
+        x.settle();
+        Checks.raise(x, 24, -101);
+        x.bound(NOISE, 0);
+        x.frames(4);
+        due("noisy before", x.about(4), 1);
+        due("drive before", x.about(2), 1);
+        due("glass(5, 5)", x.glass(5, 5), 25);
+        for (int what = 0; what <= 8; what++) due("about " + what, x.about(what), fresh.about(what));
+        for (int finger = 0; finger <= 4; finger++) due("finger is off", x.finger(finger, 0), 0);
+        int[] cell = {100, 100, 0, 0, NONE, 0};
+        for (int i = 0; i < 25; i++) {
+            for (int what = 0; what <= 5; what++) due("cell " + i + ", " + what, x.cell(i, what), cell[what]);
+        }
+        due("no spot", x.spot(0, 0), UNKNOWN);
+        due("no track", x.track(0, 0), UNKNOWN);
+        for (int drive = 0; drive <= 2; drive++) due("noise of drive " + drive, x.noise(drive, 1), 0);
+        for (int what = 0; what <= 8; what++) {
+            due("setting " + what, x.bound(what, FIRST_SETTINGS[what]), FIRST_SETTINGS[what]);
+        }
+        due("seed", x.seed(1), 1);
+    }
+
+    private static void glassKeeps() {
+        sentence(6, "The page, the events that are kept, and the results of events() and of count(1) to count(5) are"
+            + " not reset.");
+        FeltGlass x = Busy.panel();
+        int[] counts = {40, 6, 0, 12, 1, 3};
+        x.glass(3, 3);
+        for (int what = 0; what <= 5; what++) due("count " + what, x.count(what), counts[what]);
+        int[] sorts = {12, 0, 0, 6};
+        for (int sort = 1; sort <= 4; sort++) due("events " + sort, x.events(sort), sorts[sort - 1]);
+        for (int place = 0; place < 12; place++) {
+            due("sort at " + place, x.event(place, 0), place < 6 ? 1 : 4);
+            due("track at " + place, x.event(place, 1), 12 - place);
+            due("frame at " + place, x.event(place, 2), place < 6 ? 6 : 4);
+        }
+        due("the page", x.blank(), 40);
+        due("no thirteenth", x.event(12, 0), UNKNOWN);
+        Checks.raise(x, 4, 60);
+        x.frames(1);
+        due("the next identifier", x.track(0, 0), 13);
+    }
+
+    // ---- Promise 7: air
+
+    private static void airCells() {
+        sentence(7, "UNKNOWN if there is no panel or no such cell");
+        due("no panel", new FeltGlass().air(0, 5), UNKNOWN);
+        due("no panel, wrong v", new FeltGlass().air(0, 1000), UNKNOWN);
+        for (int[] size : new int[][] {{3, 3}, {8, 3}, {3, 8}, {8, 8}}) {
+            FeltGlass x = Checks.panel(size[0], size[1]);
+            int cells = size[0] * size[1];
+            due("the first cell", x.air(0, 5), 100);
+            due("the last cell", x.air(cells - 1, 6), 100);
+            for (int cell : new int[] {-1, cells, LOW, TOP, 65536, 256}) {
+                due("air(" + cell + ", 5)", x.air(cell, 5), UNKNOWN);
+                due("air(" + cell + ", 1000)", x.air(cell, 1000), UNKNOWN);
+                due("air(" + cell + ", -1)", x.air(cell, -1), UNKNOWN);
+            }
+            due("the first one", x.cell(0, 0), 5);
+            due("the last one", x.cell(cells - 1, 0), 6);
+            due("one in between", x.cell(1, 0), 100);
+        }
+    }
+
+    private static void airValues() {
+        sentence(7, "the new background, 0 to 999");
+        FeltGlass x = Checks.panel(3, 3);
+        for (int v : new int[] {-1, 1000, LOW, TOP, -999, 65536}) {
+            due("air(8, " + v + ")", x.air(8, v), OUTSIDE);
+            due("the background", x.cell(8, 0), 100);
+        }
+        due("air(8, 0)", x.air(8, 0), 100);
+        due("0", x.cell(8, 0), 0);
+        due("air(8, 999)", x.air(8, 999), 0);
+        due("999", x.cell(8, 0), 999);
+    }
+
+    private static void airPrevious() {
+        sentence(7, "Returns the previous background");
+        FeltGlass x = Checks.panel(3, 3);
+        due("100 at first", x.air(4, 100), 100);
+        due("the same again", x.air(4, 7), 100);
+        due("then 7", x.air(4, 999), 7);
+        x.warm(-99);
+        due("then 900", x.air(4, 0), 900);
+        due("the baseline", x.cell(4, 1), 100);
+        for (int cell = 0; cell < 9; cell++) due("others", x.cell(cell, 0), cell == 4 ? 0 : 1);
+    }
+
+    // ---- Promise 8: warm
+
+    private static void warmRange() {
+        sentence(8, "the number, -99 to 99");
+        FeltGlass x = new FeltGlass();
+        due("warm(0) without panel", x.warm(0), STATE);
+        due("warm(100) without panel", x.warm(100), STATE);
+        x.glass(3, 3);
+        for (int by : new int[] {-100, 100, LOW, TOP, -999, 999}) {
+            due("warm(" + by + ")", x.warm(by), OUTSIDE);
+            due("the background", x.cell(0, 0), 100);
+        }
+        due("warm(99)", x.warm(99), 9);
+        due("199", x.cell(0, 0), 199);
+        due("warm(-99)", x.warm(-99), 9);
+        due("100", x.cell(8, 0), 100);
+    }
+
+    private static void warmLimits() {
+        sentence(8, "which stay at least 0 and at most 999");
+        FeltGlass x = Checks.panel(3, 3);
+        int[] before = {0, 1, 98, 99, 900, 901, 998, 999, 500};
+        int[] warmer = {99, 100, 197, 198, 999, 999, 999, 999, 599};
+        int[] colder = {0, 0, 0, 0, 801, 802, 899, 900, 401};
+        for (int cell = 0; cell < 9; cell++) x.air(cell, before[cell]);
+        x.warm(99);
+        for (int cell = 0; cell < 9; cell++) due("from " + before[cell], x.air(cell, before[cell]), warmer[cell]);
+        x.warm(-99);
+        for (int cell = 0; cell < 9; cell++) due("from " + before[cell], x.cell(cell, 0), colder[cell]);
+    }
+
+    private static void warmChanges() {
+        sentence(8, "Returns how many backgrounds change");
+        FeltGlass x = Checks.panel(3, 3);
+        due("warm(0)", x.warm(0), 0);
+        due("warm(1)", x.warm(1), 9);
+        for (int cell = 0; cell < 8; cell++) x.air(cell, 999);
+        x.air(8, 998);
+        due("one may still rise", x.warm(99), 1);
+        due("none may rise", x.warm(99), 0);
+        due("all may fall", x.warm(-1), 9);
+        for (int cell = 0; cell < 7; cell++) x.air(cell, 0);
+        due("two may fall", x.warm(-99), 2);
+        x.air(7, 0);
+        x.air(8, 1);
+        due("the last one falls to 0", x.warm(-2), 1);
+        due("none may fall", x.warm(-1), 0);
+        for (int cell = 0; cell < 9; cell++) due("the baselines stay", x.cell(cell, 1), 100);
+        due("cells of the greatest panel", Checks.panel(8, 8).warm(1), 64);
+    }
+
+    // ---- Promise 9: noise
+
+    private static void noiseRange() {
+        sentence(9, "STATE if there is no panel; OUTSIDE if an argument is out of range.");
+        due("no panel", new FeltGlass().noise(0, 0), STATE);
+        due("no panel, wrong drive", new FeltGlass().noise(3, 0), STATE);
+        due("no panel, wrong level", new FeltGlass().noise(0, 61), STATE);
+        FeltGlass x = Checks.panel(3, 3);
+        for (int drive : new int[] {-1, 3, LOW, TOP, 256}) due("drive " + drive, x.noise(drive, 5), OUTSIDE);
+        for (int drive = 0; drive <= 2; drive++) {
+            for (int v : new int[] {-1, 61, LOW, TOP}) due("level " + v, x.noise(drive, v), OUTSIDE);
+        }
+        for (int drive = 0; drive <= 2; drive++) due("nothing was set", x.noise(drive, 60), 0);
+        for (int drive = 0; drive <= 2; drive++) due("60 was set", x.noise(drive, 0), 60);
+        for (int drive = 0; drive <= 2; drive++) due("0 was set", x.noise(drive, 1), 0);
+    }
+
+    private static void noisePrevious() {
+        sentence(9, "Returns the previous noise level");
+        FeltGlass x = Checks.panel(3, 3);
+        for (int drive = 0; drive <= 2; drive++) due("0 at first", x.noise(drive, 10 + drive), 0);
+        for (int drive = 0; drive <= 2; drive++) due("each its own", x.noise(drive, 20 + drive), 10 + drive);
+        for (int drive = 2; drive >= 0; drive--) due("each its own", x.noise(drive, 20 + drive), 20 + drive);
+    }
+
+    // ---- Promise 10: seed
+
+    private static void seedRange() {
+        sentence(10, "STATE if there is no panel; OUTSIDE if v is negative.");
+        due("no panel", new FeltGlass().seed(0), STATE);
+        due("no panel, wrong seed", new FeltGlass().seed(-1), STATE);
+        FeltGlass x = Checks.panel(3, 3);
+        due("seed(-1)", x.seed(-1), OUTSIDE);
+        due("seed(low)", x.seed(LOW), OUTSIDE);
+        due("the seed stays", x.about(7), 1);
+        due("seed(0)", x.seed(0), 1);
+        due("0", x.about(7), 0);
+        due("seed(top)", x.seed(TOP), 0);
+        due("top", x.about(7), TOP);
+    }
+
+    private static void seedPrevious() {
+        sentence(10, "Returns the previous seed");
+        FeltGlass x = Checks.panel(3, 3);
+        due("1 at first", x.seed(TOP), 1);
+        due("then the greatest", x.seed(0), TOP);
+        due("then the least", x.seed(5), 0);
+        x.noise(0, 1);
+        x.frames(1);
+        long seed = 5;
+        for (int i = 0; i < 9; i++) seed = (1103515245L * seed + 12345) % 2147483648L;
+        due("as nine draws left it", x.seed(3), seed);
+    }
+
+    // ---- Promise 11: bound
+
+    private static void boundRanges() {
+        sentence(11, "STATE if there is no panel; OUTSIDE if an argument is out of range.");
+        due("no panel", new FeltGlass().bound(0, 40), STATE);
+        due("no panel, wrong setting", new FeltGlass().bound(9, 40), STATE);
+        due("no panel, wrong value", new FeltGlass().bound(0, 19), STATE);
+        FeltGlass x = Checks.panel(3, 3);
+        for (int what : new int[] {-1, 9, LOW, TOP, 256, 65536}) {
+            for (int v : new int[] {0, 20, 30, LOW, TOP}) due("bound(" + what + ", " + v + ")", x.bound(what, v), OUTSIDE);
+        }
+        for (int what = 0; what <= 8; what++) {
+            due("nothing was set", x.bound(what, FIRST_SETTINGS[what]), FIRST_SETTINGS[what]);
+        }
+    }
+
+    private static void boundSettingRange() {
+        sentence(11, "the new value, in the range of this setting");
+        int[] least = {20, 10, 1, 2, 1, 0, 1, 0, 0}, most = {200, 100, 100, 64, 127, 9, 30, 50, 200};
+        for (int what = 0; what <= 8; what++) {
+            FeltGlass x = Checks.panel(3, 3);
+            for (int v : new int[] {least[what] - 1, most[what] + 1, LOW, TOP, -least[what] - 1}) {
+                due("bound(" + what + ", " + v + ")", x.bound(what, v), OUTSIDE);
+            }
+            due("the first value", x.bound(what, least[what]), FIRST_SETTINGS[what]);
+            due("too small", x.bound(what, least[what] - 1), OUTSIDE);
+            due("the least value", x.bound(what, most[what]), least[what]);
+            due("too great", x.bound(what, most[what] + 1), OUTSIDE);
+            due("the greatest value", x.bound(what, most[what]), most[what]);
+            for (int other = 0; other <= 8; other++) {
+                if (other != what) due("others", x.bound(other, least[other]), FIRST_SETTINGS[other]);
+            }
+        }
+    }
+
+    // ---- Promise 12: settle
+
+    private static void settleChanges() {
+        sentence(12, "Returns how many baselines change; STATE if there is no panel.");
+        due("no panel", new FeltGlass().settle(), STATE);
+        FeltGlass x = Checks.panel(8, 8);
+        due("none", x.settle(), 0);
+        x.air(0, 101);
+        due("one", x.settle(), 1);
+        due("its baseline", x.cell(0, 1), 101);
+        due("none again", x.settle(), 0);
+        x.warm(-99);
+        due("all", x.settle(), 64);
+        x.air(63, 999);
+        x.air(62, 0);
+        x.air(0, 2);
+        due("two", x.settle(), 2);
+        due("the greatest baseline", x.cell(63, 1), 999);
+        due("the least baseline", x.cell(62, 1), 0);
+        due("the background stays", x.cell(62, 0), 0);
+        Checks.reads(x, "0@0,0*15", 1);
+        due("a finger is no background", x.settle(), 0);
+        x.frames(1);
+        due("baseline moved by a frame", x.cell(0, 1), 4);
+        due("and back", x.settle(), 1);
+    }
+
+    // ---- Promise 13: frames
+
+    private static void framesRange() {
+        sentence(13, "STATE if there is no panel; OUTSIDE if n is out of range.");
+        due("no panel", new FeltGlass().frames(1), STATE);
+        due("no panel, wrong n", new FeltGlass().frames(0), STATE);
+        due("no panel, wrong n", new FeltGlass().frames(21), STATE);
+        FeltGlass x = touchedPanel(3, 3, 4);
+        for (int n : new int[] {0, 21, -1, -20, LOW, TOP, 256 + 1, 65536 + 1}) {
+            due("frames(" + n + ")", x.frames(n), OUTSIDE);
+            due("frames so far", x.about(8), 0);
+        }
+        due("frames(1)", x.frames(1), 0);
+        due("one frame", x.about(8), 1);
+        due("frames(20)", x.frames(20), 1);
+        due("20 more", x.about(8), 21);
+        due("on all panels", x.count(1), 21);
+    }
+
+    private static void framesEvents() {
+        sentence(13, "Returns how many events occurred");
+        FeltGlass x = Checks.panel(3, 3);
+        due("nothing to sense", x.frames(20), 0);
+        x = Busy.roaring();
+        FeltGlass single = Busy.roaring();
+        int all = x.frames(20), sum = 0;
+        for (int i = 0; i < 20; i++) sum += single.frames(1);
+        Checks.holds("more than are kept", all > 12);
+        due("20 frames and 20 times one", all, sum);
+        due("events of all sorts", x.events(1) + x.events(2) + x.events(3) + x.events(4), all);
+        due("again, only the new ones", x.frames(20), x.events(1) + x.events(2) + x.events(3) + x.events(4) - all);
+    }
+
+    // ---- Promise 14: finger
+
+    private static void fingerRange() {
+        sentence(14, "STATE if there is no panel; UNKNOWN if there is no such finger; OUTSIDE if what is out of range.");
+        due("no panel", new FeltGlass().finger(0, 0), STATE);
+        due("no panel, no finger", new FeltGlass().finger(5, 0), STATE);
+        due("no panel, wrong what", new FeltGlass().finger(0, 4), STATE);
+        FeltGlass x = Checks.panel(3, 3);
+        Checks.reads(x, "0@1,2*10;4@3,4*250", 2);
+        for (int finger : new int[] {-1, 5, LOW, TOP, 256}) {
+            for (int what : new int[] {0, 3, -1, 4}) due("finger " + finger, x.finger(finger, what), UNKNOWN);
+        }
+        for (int finger = 0; finger <= 4; finger++) {
+            for (int what : new int[] {-1, 4, LOW, TOP}) due("what " + what, x.finger(finger, what), OUTSIDE);
+        }
+        int[] first = {1, 1, 2, 10}, last = {1, 3, 4, 250};
+        for (int what = 0; what <= 3; what++) {
+            due("the first finger", x.finger(0, what), first[what]);
+            due("the last finger", x.finger(4, what), last[what]);
+        }
+    }
+
+    private static void fingerOff() {
+        sentence(14, "(NONE for 1 to 3 if it is off)");
+        FeltGlass x = Checks.panel(3, 3);
+        for (int finger = 0; finger <= 4; finger++) {
+            due("off at first", x.finger(finger, 0), 0);
+            for (int what = 1; what <= 3; what++) due("off at first", x.finger(finger, what), NONE);
+        }
+        Checks.reads(x, "2@1,2*10", 1);
+        due("on", x.finger(2, 0), 1);
+        Checks.reads(x, "2-", 0);
+        due("off again", x.finger(2, 0), 0);
+        for (int what = 1; what <= 3; what++) due("off again", x.finger(2, what), NONE);
+        Checks.reads(x, "2@0,0*10", 1);
+        due("u of 0 is a value", x.finger(2, 1), 0);
+    }
+
+    // ---- Promise 15: cell
+
+    private static void cellRange() {
+        sentence(15, "UNKNOWN if there is no panel or no such cell; OUTSIDE if what is out of range.");
+        due("no panel", new FeltGlass().cell(0, 0), UNKNOWN);
+        due("no panel, wrong what", new FeltGlass().cell(0, 6), UNKNOWN);
+        for (int[] size : new int[][] {{3, 3}, {8, 3}, {3, 8}, {8, 8}}) {
+            FeltGlass x = Checks.panel(size[0], size[1]);
+            int cells = size[0] * size[1];
+            for (int cell : new int[] {-1, cells, LOW, TOP, 256, 65536}) {
+                for (int what : new int[] {0, 4, 5, -1, 6}) due("cell " + cell, x.cell(cell, what), UNKNOWN);
+            }
+            for (int what : new int[] {-1, 6, LOW, TOP}) {
+                due("the first cell, what " + what, x.cell(0, what), OUTSIDE);
+                due("the last cell, what " + what, x.cell(cells - 1, what), OUTSIDE);
+            }
+            due("the first cell", x.cell(0, 5), 0);
+            due("the last cell", x.cell(cells - 1, 0), 100);
+        }
+    }
+
+    private static void cellWithoutFrame() {
+        sentence(15, "(2 and 3: 0 if there was no frame on this panel)");
+        FeltGlass x = touchedPanel(3, 3, 4);
+        due("raw before a frame", x.cell(4, 2), 0);
+        due("delta before a frame", x.cell(4, 3), 0);
+        x.frames(1);
+        due("raw", x.cell(4, 2), 150);
+        due("delta", x.cell(4, 3), 50);
+        due("raw of another cell", x.cell(0, 2), 100);
+        x.air(4, 0);
+        x.settle();
+        due("raw in the latest frame", x.cell(4, 2), 150);
+        due("delta in the latest frame", x.cell(4, 3), 50);
+        x.glass(3, 3);
+        for (int cell = 0; cell < 9; cell++) {
+            due("raw on the next panel", x.cell(cell, 2), 0);
+            due("delta on the next panel", x.cell(cell, 3), 0);
+        }
+    }
+
+    private static void cellSpotOrNone() {
+        sentence(15, "(NONE if to none, or there was no frame)");
+        FeltGlass x = touchedPanel(5, 3, 5);
+        Checks.raise(x, 7, 39, 9, 50);
+        due("no frame", x.cell(5, 4), NONE);
+        x.frames(1);
+        due("the first spot", x.cell(5, 4), 0);
+        due("touched, in no spot", x.cell(7, 4), NONE);
+        due("not touched", x.cell(6, 4), NONE);
+        due("the last spot", x.cell(9, 4), 1);
+        Checks.raise(x, 5, 0);
+        due("still of the latest frame", x.cell(5, 4), 0);
+        x.frames(1);
+        due("to none any more", x.cell(5, 4), NONE);
+        due("the spot has another number", x.cell(9, 4), 0);
+        x.glass(5, 3);
+        due("no frame on the next panel", x.cell(9, 4), NONE);
+    }
+
+    private static void cellDeltaBeforeTheMove() {
+        sentence(15, "3 its delta in the latest frame, before the baseline was moved");
+        FeltGlass x = Checks.panel(3, 3);
+        Checks.raise(x, 0, 15);
+        x.bound(DRIFT, 50);
+        x.frames(1);
+        due("delta", x.cell(0, 3), 15);
+        due("baseline", x.cell(0, 1), 115);
+        x.frames(1);
+        due("delta after the move", x.cell(0, 3), 0);
+    }
+
+    private static void cellSensesNow() {
+        sentence(15, "5 what it senses of all fingers as they are now");
+        FeltGlass x = Checks.panel(3, 3);
+        due("no finger", x.cell(4, 5), 0);
+        Checks.reads(x, "0@2,2*100", 1);
+        due("before a frame", x.cell(4, 5), 100);
+        x.frames(1);
+        Checks.reads(x, "1@2,2*50", 2);
+        due("both", x.cell(4, 5), 150);
+        due("raw of the latest frame", x.cell(4, 2), 200);
+        Checks.reads(x, "0-;1-", 0);
+        due("none", x.cell(4, 5), 0);
+        Checks.reads(x, "0@2,2*100", 1);
+        x.glass(3, 3);
+        due("none on the next panel", x.cell(4, 5), 0);
+    }
+
+    // ---- Promise 16: about
+
+    private static void aboutRange() {
+        sentence(16, "STATE if there is no panel; OUTSIDE if what is out of range.");
+        for (int what : new int[] {0, 8, -1, 9}) due("no panel", new FeltGlass().about(what), STATE);
+        FeltGlass x = Checks.panel(3, 8);
+        for (int what : new int[] {-1, 9, LOW, TOP, 256}) due("about(" + what + ")", x.about(what), OUTSIDE);
+        due("about(0)", x.about(0), 3);
+        x.frames(7);
+        due("about(8)", x.about(8), 7);
+    }
+
+    private static void aboutWithoutFrame() {
+        sentence(16, "3 the spread in the latest frame (0 if there was no frame)");
+        FeltGlass x = Checks.panel(3, 3);
+        Checks.raise(x, 0, 31);
+        x.bound(1, 100);
+        int[] before = {3, 3, 0, 0, 0, 0, 0, 1, 0};
+        for (int what = 0; what <= 8; what++) due("no frame, about " + what, x.about(what), before[what]);
+        x.frames(1);
+        due("spread", x.about(3), 31);
+        due("noisy", x.about(4), 1);
+        Checks.raise(x, 0, 30);
+        due("still of the latest frame", x.about(3), 31);
+        x.frames(1);
+        due("spread", x.about(3), 30);
+        due("not noisy", x.about(4), 0);
+        x.glass(3, 3);
+        for (int what = 0; what <= 8; what++) due("the next panel, about " + what, x.about(what), before[what]);
+    }
+
+    // ---- Promise 17: spot
+
+    private static void spotRange() {
+        sentence(17, "UNKNOWN if there is no panel or no such spot; OUTSIDE if what is out of range.");
+        due("no panel", new FeltGlass().spot(0, 0), UNKNOWN);
+        due("no panel, wrong what", new FeltGlass().spot(0, 6), UNKNOWN);
+        FeltGlass x = touchedPanel(3, 3, 4);
+        due("no frame", x.spot(0, 0), UNKNOWN);
+        x.frames(1);
+        for (int spot : new int[] {-1, 1, LOW, TOP}) {
+            for (int what : new int[] {0, 5, -1, 6}) due("spot " + spot, x.spot(spot, what), UNKNOWN);
+        }
+        for (int what : new int[] {-1, 6, LOW, TOP}) due("what " + what, x.spot(0, what), OUTSIDE);
+        int[] facts = {4, 1, 50, 16, 16, 1};
+        for (int what = 0; what <= 5; what++) due("spot(0, " + what + ")", x.spot(0, what), facts[what]);
+        Checks.raise(x, 4, 0);
+        x.frames(1);
+        due("no spot", x.spot(0, 0), UNKNOWN);
+        due("no spot, wrong what", x.spot(0, 6), UNKNOWN);
+        x = Busy.panel();
+        due("the sixth spot", x.spot(5, 0), 14);
+        due("no seventh", x.spot(6, 0), UNKNOWN);
+        due("the sixth spot, wrong what", x.spot(5, 6), OUTSIDE);
+        x.glass(5, 5);
+        due("the next panel has none", x.spot(0, 0), UNKNOWN);
+    }
+
+    private static void spotWithoutTrack() {
+        sentence(17, "5 the identifier of its track (NONE if it has none)");
+        FeltGlass x = Busy.panel();
+        for (int spot = 0; spot < 6; spot++) due("the track of " + spot, x.spot(spot, 5), 7 + spot);
+        x.noise(0, 0);
+        x.bound(REACH, 1);
+        x.bound(HOLD, 9);
+        for (int cell : Busy.SIX) Checks.raise(x, cell, 0);
+        Checks.raise(x, 20, 50);
+        x.frames(1);
+        due("one spot", x.about(5), 1);
+        due("six tracks", x.about(6), 6);
+        due("a spot without a track", x.spot(0, 5), NONE);
+    }
+
+    // ---- Promise 18: track
+
+    private static void trackRange() {
+        sentence(18, "UNKNOWN if there is no panel or no such track; OUTSIDE if what is out of range.");
+        due("no panel", new FeltGlass().track(0, 0), UNKNOWN);
+        due("no panel, wrong what", new FeltGlass().track(0, 9), UNKNOWN);
+        FeltGlass x = touchedPanel(3, 3, 4);
+        due("no track", x.track(0, 0), UNKNOWN);
+        x.frames(1);
+        for (int track : new int[] {-1, 1, LOW, TOP}) {
+            for (int what : new int[] {0, 8, -1, 9}) due("track " + track, x.track(track, what), UNKNOWN);
+        }
+        for (int what : new int[] {-1, 9, LOW, TOP}) due("what " + what, x.track(0, what), OUTSIDE);
+        int[] facts = {1, 16, 16, 1, 50, 1, 0, 0, 0};
+        for (int what = 0; what <= 8; what++) due("track(0, " + what + ")", x.track(0, what), facts[what]);
+        x = Busy.panel();
+        due("the sixth track", x.track(5, 0), 12);
+        due("no seventh", x.track(6, 0), UNKNOWN);
+        due("the sixth track, wrong what", x.track(5, 9), OUTSIDE);
+        x.glass(5, 5);
+        due("the next panel has none", x.track(0, 0), UNKNOWN);
+    }
+
+    private static void trackOrder() {
+        sentence(18, "the index of the track, from 0, in ascending order of identifiers");
+        FeltGlass x = Checks.still(7, 3);
+        x.bound(HOLD, 0);
+        x.bound(REACH, 1);
+        Checks.raise(x, 0, 50, 4, 50, 16, 50);
+        x.frames(1);
+        for (int track = 0; track < 3; track++) due("three tracks", x.track(track, 0), 1 + track);
+        // The second one goes, and a new one comes at a cell between the others.
+        Checks.raise(x, 4, 0, 2, 50);
+        x.frames(1);
+        int[] identifiers = {1, 3, 4}, places = {0, 32, 32};
+        for (int track = 0; track < 3; track++) {
+            due("identifier at " + track, x.track(track, 0), identifiers[track]);
+            due("X at " + track, x.track(track, 1), places[track]);
+        }
+        due("no fourth", x.track(3, 0), UNKNOWN);
+    }
+
+    // ---- Promise 19: as
+
+    private static void asKinds() {
+        sentence(19, "Returns the identifier of the track if it is of this kind, NONE otherwise");
+        FeltGlass x = touchedPanel(5, 3, 5);
+        x.bound(PALM, 2);
+        Checks.raise(x, 8, 50, 9, 50);
+        x.frames(1);
+        due("no palm, cast to no palm", x.as(0, 0), 1);
+        due("no palm, cast to a palm", x.as(0, 1), NONE);
+        due("a palm, cast to no palm", x.as(1, 0), NONE);
+        due("a palm, cast to a palm", x.as(1, 1), 2);
+    }
+
+    private static void asRange() {
+        sentence(19, "UNKNOWN if there is no panel or no such track; OUTSIDE if kind is out of range.");
+        due("no panel", new FeltGlass().as(0, 0), UNKNOWN);
+        due("no panel, wrong kind", new FeltGlass().as(0, 2), UNKNOWN);
+        FeltGlass x = touchedPanel(3, 3, 4);
+        due("no track", x.as(0, 0), UNKNOWN);
+        x.frames(1);
+        for (int track : new int[] {-1, 1, LOW, TOP}) {
+            for (int kind = -1; kind <= 2; kind++) due("track " + track, x.as(track, kind), UNKNOWN);
+        }
+        for (int kind : new int[] {-1, 2, LOW, TOP}) due("kind " + kind, x.as(0, kind), OUTSIDE);
+        x = Busy.panel();
+        due("the sixth track", x.as(5, 0), 12);
+        due("no seventh", x.as(6, 0), UNKNOWN);
+        due("no seventh, wrong kind", x.as(6, 2), UNKNOWN);
+    }
+
+    // ---- Promise 20: event
+
+    /** Events one by one: down, tap, down, tap, .. of tracks 1, 1, 2, 2, .. in frames 2, 3, 5, 6, .. */
+    private static void nextEvent(FeltGlass x, int already) {
+        Checks.raise(x, 4, already % 2 == 0 ? 50 : 0);
+        due("one event more", x.frames(already % 2 == 0 ? 2 : 1), 1);
+    }
+
+    private static void eventPlaces() {
+        sentence(20, "The latest twelve events, of all panels, are kept.");
+        FeltGlass x = Checks.still(3, 3);
+        x.bound(HOLD, 0);
+        due("no event", x.event(0, 0), UNKNOWN);
+        for (int written = 1; written <= 26; written++) {
+            nextEvent(x, written - 1);
+            int kept = Math.min(written, 12);
+            due("after the oldest of " + written, x.event(kept, 0), UNKNOWN);
+            int oldest = written - kept;
+            due("the latest sort", x.event(0, 0), written % 2 == 1 ? 1 : 4);
+            due("the latest track", x.event(0, 1), (written + 1) / 2);
+            due("the oldest sort", x.event(kept - 1, 0), oldest % 2 == 0 ? 1 : 4);
+            due("the oldest track", x.event(kept - 1, 1), oldest / 2 + 1);
+            due("the oldest frame", x.event(kept - 1, 2), oldest / 2 * 3 + 2 + oldest % 2);
+        }
+        for (int place = 0; place < 12; place++) due("in order", x.event(place, 1), 13 - place / 2);
+        due("no place 12", x.event(12, 0), UNKNOWN);
+        due("no place 25", x.event(25, 0), UNKNOWN);
+    }
+
+    private static void eventsOfAllPanels() {
+        sentence(20, "The latest twelve events, of all panels, are kept.");
+        FeltGlass x = new FeltGlass();
+        for (int panel = 1; panel <= 13; panel++) {
+            x.glass(3, 3);
+            Checks.raise(x, 4, 50);
+            due("down", x.frames(2), 1);
+            int kept = Math.min(panel, 12);
+            due("the latest one", x.event(0, 1), panel);
+            due("the oldest one", x.event(kept - 1, 1), panel - kept + 1);
+            due("none after it", x.event(kept, 1), UNKNOWN);
+        }
+    }
+
+    private static void eventFrames() {
+        sentence(20, "2 in which frame of its panel it occurred (the first frame is 1)");
+        FeltGlass x = Checks.still(3, 3);
+        x.frames(20);
+        Checks.raise(x, 4, 50);
+        x.frames(2);
+        due("the 22nd frame", x.event(0, 2), 22);
+        x.glass(3, 3);
+        Checks.raise(x, 4, 50);
+        x.frames(20);
+        due("the second frame of the next panel", x.event(0, 2), 2);
+        x.glass(3, 3);
+        x.bound(1, 100);
+        x.bound(NOISE, 0);
+        Checks.raise(x, 0, 5);
+        x.frames(3);
+        due("noisy frames", x.count(2), 3);
+        x.settle();
+        x.bound(1, 20);
+        Checks.raise(x, 4, 50);
+        x.frames(2);
+        due("noisy frames are counted", x.event(0, 2), 5);
+    }
+
+    private static void eventRange() {
+        sentence(20, "UNKNOWN if there is no such event; OUTSIDE if what is out of range.");
+        due("no panel", new FeltGlass().event(0, 0), UNKNOWN);
+        due("no panel, wrong what", new FeltGlass().event(0, 3), UNKNOWN);
+        FeltGlass x = touchedPanel(3, 3, 4);
+        due("no event", x.event(0, 0), UNKNOWN);
+        due("no event, wrong what", x.event(0, -1), UNKNOWN);
+        x.frames(2);
+        for (int place : new int[] {-1, 1, 12, LOW, TOP}) {
+            for (int what : new int[] {0, 2, -1, 3}) due("place " + place, x.event(place, what), UNKNOWN);
+        }
+        for (int what : new int[] {-1, 3, LOW, TOP}) due("what " + what, x.event(0, what), OUTSIDE);
+        for (int what = 0; what <= 2; what++) due("event(0, " + what + ")", x.event(0, what), what == 2 ? 2 : 1);
+        x = Busy.panel();
+        due("the twelfth", x.event(11, 2), 4);
+        due("the twelfth, wrong what", x.event(11, 3), OUTSIDE);
+        due("no thirteenth", x.event(12, 0), UNKNOWN);
+        due("no thirteenth, wrong what", x.event(12, 3), UNKNOWN);
+    }
+
+    // ---- Promise 21: count
+
+    private static void countRange() {
+        sentence(21, "Returns the count; OUTSIDE if what is out of range.");
+        for (FeltGlass x : new FeltGlass[] {new FeltGlass(), Busy.panel()}) {
+            for (int what : new int[] {-1, 6, LOW, TOP, 256}) due("count(" + what + ")", x.count(what), OUTSIDE);
+        }
+        int[] counts = {40, 6, 0, 12, 1, 2};
+        for (int what = 0; what <= 5; what++) due("count(" + what + ")", Busy.panel().count(what), counts[what]);
+    }
+
+    private static void countsOfAllPanels() {
+        sentence(21, "1 frames on all panels, 2 noisy frames on all panels, 3 tracks that have ever begun, 4 texts of"
+            + " fingers that were read, 5 panels that were created");
+        FeltGlass x = new FeltGlass();
+        for (int panel = 1; panel <= 3; panel++) {
+            x.glass(5, 5);
+            Checks.reads(x, "0@0,0*60", 1);
+            x.frames(2);
+            Checks.raise(x, 24, -31);
+            x.frames(1);
+            Checks.type(x, "9");
+            x.fingers();
+            x.blank();
+            x.glass(2, 5);
+            x.frames(0);
+            int[] counts = {0, 3 * panel, panel, panel, panel, panel};
+            for (int what = 0; what <= 5; what++) due("count " + what, x.count(what), counts[what]);
+        }
+    }
+
+    // ---- Promise 22: events
+
+    private static void eventsRange() {
+        sentence(22, "Returns the number; OUTSIDE if sort is out of range.");
+        for (FeltGlass x : new FeltGlass[] {new FeltGlass(), Busy.panel()}) {
+            for (int sort : new int[] {0, 5, -1, LOW, TOP, 256 + 1}) due("events(" + sort + ")", x.events(sort), OUTSIDE);
+        }
+        for (int sort = 1; sort <= 4; sort++) due("none at first", new FeltGlass().events(sort), 0);
+    }
+
+    private static void eventsEver() {
+        sentence(22, "Returns how many events of a sort have ever occurred.");
+        FeltGlass x = new FeltGlass();
+        for (int panel = 1; panel <= 7; panel++) {
+            x.glass(3, 3);
+            x.bound(HOLD, 0);
+            x.bound(PALM, 2);
+            // Down and tap, down and up, down and called off.
+            Checks.raise(x, 4, 50);
+            x.frames(6);
+            Checks.raise(x, 4, 0);
+            x.frames(1);
+            Checks.raise(x, 4, 50);
+            x.frames(7);
+            Checks.raise(x, 4, 0);
+            x.frames(1);
+            Checks.raise(x, 4, 50);
+            x.frames(2);
+            Checks.raise(x, 5, 30);
+            x.frames(1);
+            int[] counts = {3 * panel, panel, panel, panel};
+            for (int sort = 1; sort <= 4; sort++) due("events " + sort, x.events(sort), counts[sort - 1]);
+        }
+        due("more than are kept", x.event(12, 0), UNKNOWN);
+    }
+
+    // ---- Promise 23: digest
+
+    private static void digestWithoutPanel() {
+        sentence(23, "if there is a panel");
+        FeltGlass x = new FeltGlass();
+        due("a new object", x.digest(), Checks.hash(1583, 0, 0, 0, 0, 0, 0, 0, 0, 0, 0));
+        due("the same as of the numbers", x.digest(), hashOf(x, ""));
+        Checks.type(x, " ~");
+        due("a page", x.digest(), Checks.hash(1583, 32, 126, 2, 0, 0, 0, 0, 0, 0, 0, 0, 0));
+        x.blank();
+        String full = "The page is a text of at most 40 letters";
+        Checks.type(x, full);
+        due("a full page", x.digest(), hashOf(x, full));
+    }
+
+    private static void digestOfAllThereIs() {
+        sentence(23, "for each event that is kept, the latest first, those of event() for 0 to 2");
+        FeltGlass x = Checks.panel(3, 3);
+        due("no frame", x.digest(), hashOf(x, ""));
+        x = touchedPanel(3, 3, 4);
+        x.frames(1);
+        due("a spot and no event", x.digest(), hashOf(x, ""));
+        x.frames(1);
+        due("an event", x.digest(), hashOf(x, ""));
+        x = Busy.panel();
+        due("six spots", x.about(5), 6);
+        due("six tracks", x.about(6), 6);
+        due("twelve events", x.event(11, 0), 4);
+        due("all of them", x.digest(), hashOf(x, Busy.PAGE));
+        x = Busy.noisyPanel();
+        due("no spots", x.about(5), 0);
+        due("a noisy frame", x.digest(), hashOf(x, Busy.PAGE));
+    }
+
+    private static void digestChangesNothing() {
+        sentence(23, "Computes a hash value.");
+        FeltGlass x = Busy.panel(), twin = Busy.panel();
+        long first = x.digest();
+        due("again", x.digest(), first);
+        due("of the twin", twin.digest(), first);
+        due("frames", x.frames(5), twin.frames(5));
+        due("after frames", x.digest(), twin.digest());
+    }
+
+    /** The hash of what the other methods answer. */
+    private static long hashOf(FeltGlass x, String page) {
+        long h = 1583;
+        if (x.about(0) != STATE) {
+            for (int what = 0; what <= 8; what++) h = Checks.hash(h, x.about(what));
+            for (int i = 0; i < 5; i++) for (int what = 0; what <= 3; what++) h = Checks.hash(h, x.finger(i, what));
+            int cells = x.about(0) * x.about(1), spots = x.about(5), tracks = x.about(6);
+            for (int i = 0; i < cells; i++) for (int what = 0; what <= 5; what++) h = Checks.hash(h, x.cell(i, what));
+            for (int i = 0; i < spots; i++) for (int what = 0; what <= 5; what++) h = Checks.hash(h, x.spot(i, what));
+            for (int i = 0; i < tracks; i++) for (int what = 0; what <= 8; what++) h = Checks.hash(h, x.track(i, what));
+        }
+        for (int i = 0; i < 12 && x.event(i, 0) != UNKNOWN; i++) {
+            for (int what = 0; what <= 2; what++) h = Checks.hash(h, x.event(i, what));
+        }
+        for (char c : page.toCharArray()) h = Checks.hash(h, c);
+        for (int what = 0; what <= 5; what++) h = Checks.hash(h, x.count(what));
+        for (int sort = 1; sort <= 4; sort++) h = Checks.hash(h, x.events(sort));
+        return h;
+    }
+}
