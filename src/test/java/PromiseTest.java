@@ -146,8 +146,8 @@ public final class PromiseTest {
 
     /** The sign after a power below 10, or the end of the page, is the fault; 0 is such a power as well. */
     private static void faultInSmallPowers() {
-        FeltGlass x = Checks.panel(3, 3);
         for (int power = 0; power <= 9; power++) {
+            FeltGlass x = Checks.panel(3, 3);
             String text = "0@0,0*" + power;
             Checks.fault(x, text, 7);
             for (String after : new String[] {";", ";1-", "-", "@", ",", "*", " ", "x"}) {
@@ -157,9 +157,11 @@ public final class PromiseTest {
             Checks.fault(x, "4@4,4*250;" + text + ";3-", 17);
         }
         for (int digit = 0; digit <= 9; digit++) {
+            FeltGlass x = Checks.panel(3, 3);
             Checks.fault(x, "0@0,0*0" + digit, 7);
             Checks.fault(x, "0@0,0*0" + digit + "0;1-", 7);
         }
+        FeltGlass x = Checks.panel(3, 3);
         Checks.fault(x, "0-;0-;0-;0-;0-;0-;0-;0-;0-;0-;0-;0@0,0*0", 40);
         Checks.fault(x, "0-;0-;0-;0-;0-;0-;0-;0-;0-;0-;0@0,0*0;0-", 37);
     }

@@ -2,7 +2,8 @@ import java.util.Random;
 
 /** Long runs of random calls, each answer compared with that of PlainGlass. */
 public final class RandomRunsTest {
-    private static final int RUNS = 400, CALLS = 512;
+    // The last step of a run may make five calls more; only 512 calls of an object have promised answers.
+    private static final int RUNS = 400, CALLS = 507;
     private static int wrong;
 
     private final Random random;
