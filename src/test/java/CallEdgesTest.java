@@ -1,3 +1,5 @@
+import java.math.BigInteger;
+
 /** The boundary cases that promises 1 and 6 to 23 name, a test for each sentence. */
 public final class CallEdgesTest {
     private static final int NONE = Checks.NONE, UNKNOWN = Checks.UNKNOWN, OUTSIDE = Checks.OUTSIDE;
@@ -11,24 +13,35 @@ public final class CallEdgesTest {
         fiveHundredAndTwelveCalls();
         glassSizes();
         glassOutside();
+        glassWide();
+        glassHigh();
         glassInitialState();
         glassKeeps();
         airCells();
         airValues();
+        airOutside();
         airPrevious();
         warmRange();
+        warmErrors();
         warmLimits();
         warmChanges();
-        noiseRange();
+        noiseErrors();
+        noiseDrives();
+        noiseLevels();
         noisePrevious();
         seedRange();
+        seedErrors();
         seedPrevious();
-        boundRanges();
+        boundErrors();
+        boundSettings();
+        boundPrevious();
         boundSettingRange();
         settleChanges();
         framesRange();
+        framesErrors();
         framesEvents();
         fingerRange();
+        fingerErrors();
         fingerOff();
         cellRange();
         cellWithoutFrame();
@@ -37,22 +50,34 @@ public final class CallEdgesTest {
         cellSensesNow();
         aboutRange();
         aboutWithoutFrame();
+        aboutNoisy();
+        aboutSpotsAndTracks();
+        aboutFrames();
         spotRange();
         spotWithoutTrack();
         trackRange();
         trackOrder();
+        trackPalm();
         asKinds();
+        asPalmOrNot();
         asRange();
         eventPlaces();
         eventsOfAllPanels();
         eventFrames();
+        eventLatestFirst();
+        eventSorts();
         eventRange();
         countRange();
+        countCharacters();
         countsOfAllPanels();
+        eventsErrors();
         eventsRange();
         eventsEver();
         digestWithoutPanel();
-        digestOfAllThereIs();
+        digestOfAPanel();
+        digestOfEvents();
+        digestOfThePage();
+        digestOverflows();
         digestChangesNothing();
         Checks.end();
     }
@@ -139,20 +164,42 @@ public final class CallEdgesTest {
 
     private static void glassOutside() {
         sentence(6, "OUTSIDE if an argument is out of range.");
-        int[] wrong = {2, 9, 1, 0, -1, -3, 11, LOW, TOP, 256 + 3, 65536 + 3};
-        for (int side : wrong) {
-            for (int other : new int[] {3, 8, side}) {
-                FeltGlass x = new FeltGlass();
-                due("glass(" + side + ", " + other + ")", x.glass(side, other), OUTSIDE);
-                due("glass(" + other + ", " + side + ")", x.glass(other, side), OUTSIDE);
-                due("no panel", x.about(0), STATE);
-                due("no panel was created", x.count(5), 0);
-            }
-        }
-        FeltGlass x = Checks.panel(4, 5);
+        FeltGlass x = new FeltGlass();
+        due("both too small", x.glass(2, 2), OUTSIDE);
+        due("both too great", x.glass(9, 9), OUTSIDE);
+        due("one too small, one too great", x.glass(2, 9), OUTSIDE);
+        due("no panel", x.about(0), STATE);
+        due("no panel was created", x.count(5), 0);
+        x = Checks.panel(4, 5);
         due("glass(2, 8) on a panel", x.glass(2, 8), OUTSIDE);
         due("the panel stays", x.about(0), 4);
         due("panels", x.count(5), 1);
+    }
+
+    private static void glassWide() {
+        sentence(6, "W, 3 to 8");
+        for (int wide : new int[] {2, 9, 1, 0, -1, -3, 11, LOW, TOP, 256 + 3, 65536 + 3}) {
+            for (int high = 3; high <= 8; high++) {
+                FeltGlass x = new FeltGlass();
+                due("glass(" + wide + ", " + high + ")", x.glass(wide, high), OUTSIDE);
+                due("no panel", x.about(0), STATE);
+            }
+        }
+        due("the least", new FeltGlass().glass(3, 5), 15);
+        due("the greatest", new FeltGlass().glass(8, 5), 40);
+    }
+
+    private static void glassHigh() {
+        sentence(6, "H, 3 to 8");
+        for (int high : new int[] {2, 9, 1, 0, -1, -3, 11, LOW, TOP, 256 + 3, 65536 + 3}) {
+            for (int wide = 3; wide <= 8; wide++) {
+                FeltGlass x = new FeltGlass();
+                due("glass(" + wide + ", " + high + ")", x.glass(wide, high), OUTSIDE);
+                due("no panel", x.about(0), STATE);
+            }
+        }
+        due("the least", new FeltGlass().glass(5, 3), 15);
+        due("the greatest", new FeltGlass().glass(5, 8), 40);
     }
 
     private static void glassInitialState() {
@@ -227,14 +274,19 @@ public final class CallEdgesTest {
     private static void airValues() {
         sentence(7, "the new background, 0 to 999");
         FeltGlass x = Checks.panel(3, 3);
-        for (int v : new int[] {-1, 1000, LOW, TOP, -999, 65536}) {
-            due("air(8, " + v + ")", x.air(8, v), OUTSIDE);
-            due("the background", x.cell(8, 0), 100);
-        }
         due("air(8, 0)", x.air(8, 0), 100);
         due("0", x.cell(8, 0), 0);
         due("air(8, 999)", x.air(8, 999), 0);
         due("999", x.cell(8, 0), 999);
+    }
+
+    private static void airOutside() {
+        sentence(7, "OUTSIDE if v is out of range.");
+        FeltGlass x = Checks.panel(3, 3);
+        for (int v : new int[] {-1, 1000, LOW, TOP, -999, 65536}) {
+            due("air(8, " + v + ")", x.air(8, v), OUTSIDE);
+            due("the background", x.cell(8, 0), 100);
+        }
     }
 
     private static void airPrevious() {
@@ -253,18 +305,23 @@ public final class CallEdgesTest {
 
     private static void warmRange() {
         sentence(8, "the number, -99 to 99");
-        FeltGlass x = new FeltGlass();
-        due("warm(0) without panel", x.warm(0), STATE);
-        due("warm(100) without panel", x.warm(100), STATE);
-        x.glass(3, 3);
-        for (int by : new int[] {-100, 100, LOW, TOP, -999, 999}) {
-            due("warm(" + by + ")", x.warm(by), OUTSIDE);
-            due("the background", x.cell(0, 0), 100);
-        }
+        FeltGlass x = Checks.panel(3, 3);
         due("warm(99)", x.warm(99), 9);
         due("199", x.cell(0, 0), 199);
         due("warm(-99)", x.warm(-99), 9);
         due("100", x.cell(8, 0), 100);
+        due("warm(-1)", x.warm(-1), 9);
+        due("99", x.cell(8, 0), 99);
+    }
+
+    private static void warmErrors() {
+        sentence(8, "STATE if there is no panel; OUTSIDE if by is out of range.");
+        for (int by : new int[] {0, 99, -99, 100, -100}) due("no panel", new FeltGlass().warm(by), STATE);
+        FeltGlass x = Checks.panel(3, 3);
+        for (int by : new int[] {-100, 100, LOW, TOP, -999, 999}) {
+            due("warm(" + by + ")", x.warm(by), OUTSIDE);
+            due("the background", x.cell(0, 0), 100);
+        }
     }
 
     private static void warmLimits() {
@@ -302,13 +359,25 @@ public final class CallEdgesTest {
 
     // ---- Promise 9: noise
 
-    private static void noiseRange() {
+    private static void noiseErrors() {
         sentence(9, "STATE if there is no panel; OUTSIDE if an argument is out of range.");
         due("no panel", new FeltGlass().noise(0, 0), STATE);
         due("no panel, wrong drive", new FeltGlass().noise(3, 0), STATE);
         due("no panel, wrong level", new FeltGlass().noise(0, 61), STATE);
+        due("both wrong", Checks.panel(3, 3).noise(3, 61), OUTSIDE);
+        due("both wrong", Checks.panel(3, 3).noise(-1, -1), OUTSIDE);
+    }
+
+    private static void noiseDrives() {
+        sentence(9, "the drive, 0 to 2");
         FeltGlass x = Checks.panel(3, 3);
         for (int drive : new int[] {-1, 3, LOW, TOP, 256}) due("drive " + drive, x.noise(drive, 5), OUTSIDE);
+        for (int drive = 0; drive <= 2; drive++) due("drive " + drive, x.noise(drive, 5), 0);
+    }
+
+    private static void noiseLevels() {
+        sentence(9, "the new noise level, 0 to 60");
+        FeltGlass x = Checks.panel(3, 3);
         for (int drive = 0; drive <= 2; drive++) {
             for (int v : new int[] {-1, 61, LOW, TOP}) due("level " + v, x.noise(drive, v), OUTSIDE);
         }
@@ -328,17 +397,21 @@ public final class CallEdgesTest {
     // ---- Promise 10: seed
 
     private static void seedRange() {
-        sentence(10, "STATE if there is no panel; OUTSIDE if v is negative.");
-        due("no panel", new FeltGlass().seed(0), STATE);
-        due("no panel, wrong seed", new FeltGlass().seed(-1), STATE);
+        sentence(10, "the new seed, 0 or more");
         FeltGlass x = Checks.panel(3, 3);
-        due("seed(-1)", x.seed(-1), OUTSIDE);
-        due("seed(low)", x.seed(LOW), OUTSIDE);
-        due("the seed stays", x.about(7), 1);
         due("seed(0)", x.seed(0), 1);
         due("0", x.about(7), 0);
         due("seed(top)", x.seed(TOP), 0);
         due("top", x.about(7), TOP);
+    }
+
+    private static void seedErrors() {
+        sentence(10, "STATE if there is no panel; OUTSIDE if v is negative.");
+        for (int v : new int[] {0, 1, -1, LOW, TOP}) due("no panel", new FeltGlass().seed(v), STATE);
+        FeltGlass x = Checks.panel(3, 3);
+        due("seed(-1)", x.seed(-1), OUTSIDE);
+        due("seed(low)", x.seed(LOW), OUTSIDE);
+        due("the seed stays", x.about(7), 1);
     }
 
     private static void seedPrevious() {
@@ -356,11 +429,17 @@ public final class CallEdgesTest {
 
     // ---- Promise 11: bound
 
-    private static void boundRanges() {
+    private static void boundErrors() {
         sentence(11, "STATE if there is no panel; OUTSIDE if an argument is out of range.");
         due("no panel", new FeltGlass().bound(0, 40), STATE);
         due("no panel, wrong setting", new FeltGlass().bound(9, 40), STATE);
         due("no panel, wrong value", new FeltGlass().bound(0, 19), STATE);
+        due("both wrong", Checks.panel(3, 3).bound(9, -1), OUTSIDE);
+        due("both wrong", Checks.panel(3, 3).bound(-1, 201), OUTSIDE);
+    }
+
+    private static void boundSettings() {
+        sentence(11, "the setting, 0 to 8");
         FeltGlass x = Checks.panel(3, 3);
         for (int what : new int[] {-1, 9, LOW, TOP, 256, 65536}) {
             for (int v : new int[] {0, 20, 30, LOW, TOP}) due("bound(" + what + ", " + v + ")", x.bound(what, v), OUTSIDE);
@@ -368,6 +447,15 @@ public final class CallEdgesTest {
         for (int what = 0; what <= 8; what++) {
             due("nothing was set", x.bound(what, FIRST_SETTINGS[what]), FIRST_SETTINGS[what]);
         }
+    }
+
+    private static void boundPrevious() {
+        sentence(11, "Returns the previous value");
+        FeltGlass x = Checks.panel(3, 3);
+        int[] second = {41, 21, 81, 11, 25, 2, 7, 3, 31};
+        for (int what = 0; what <= 8; what++) due("at first", x.bound(what, second[what]), FIRST_SETTINGS[what]);
+        for (int what = 8; what >= 0; what--) due("then", x.bound(what, second[what]), second[what]);
+        for (int what = 0; what <= 8; what++) due("the same again", x.bound(what, FIRST_SETTINGS[what]), second[what]);
     }
 
     private static void boundSettingRange() {
@@ -419,20 +507,29 @@ public final class CallEdgesTest {
     // ---- Promise 13: frames
 
     private static void framesRange() {
-        sentence(13, "STATE if there is no panel; OUTSIDE if n is out of range.");
-        due("no panel", new FeltGlass().frames(1), STATE);
-        due("no panel, wrong n", new FeltGlass().frames(0), STATE);
-        due("no panel, wrong n", new FeltGlass().frames(21), STATE);
+        sentence(13, "the number of frames, 1 to 20");
         FeltGlass x = touchedPanel(3, 3, 4);
-        for (int n : new int[] {0, 21, -1, -20, LOW, TOP, 256 + 1, 65536 + 1}) {
-            due("frames(" + n + ")", x.frames(n), OUTSIDE);
-            due("frames so far", x.about(8), 0);
-        }
         due("frames(1)", x.frames(1), 0);
         due("one frame", x.about(8), 1);
         due("frames(20)", x.frames(20), 1);
         due("20 more", x.about(8), 21);
         due("on all panels", x.count(1), 21);
+        for (int n = 1; n <= 20; n++) {
+            x = Checks.panel(3, 3);
+            x.frames(n);
+            due("frames(" + n + ")", x.about(8), n);
+        }
+    }
+
+    private static void framesErrors() {
+        sentence(13, "STATE if there is no panel; OUTSIDE if n is out of range.");
+        for (int n : new int[] {1, 20, 0, 21, -1}) due("no panel", new FeltGlass().frames(n), STATE);
+        FeltGlass x = touchedPanel(3, 3, 4);
+        for (int n : new int[] {0, 21, -1, -20, LOW, TOP, 256 + 1, 65536 + 1}) {
+            due("frames(" + n + ")", x.frames(n), OUTSIDE);
+            due("frames so far", x.about(8), 0);
+            due("no spot", x.spot(0, 0), UNKNOWN);
+        }
     }
 
     private static void framesEvents() {
@@ -452,22 +549,29 @@ public final class CallEdgesTest {
     // ---- Promise 14: finger
 
     private static void fingerRange() {
+        sentence(14, "the finger, 0 to 4");
+        FeltGlass x = Checks.panel(3, 3);
+        Checks.reads(x, "0@1,2*10;4@3,4*250", 2);
+        int[] first = {1, 1, 2, 10}, last = {1, 3, 4, 250};
+        for (int what = 0; what <= 3; what++) {
+            due("the first finger", x.finger(0, what), first[what]);
+            due("the last finger", x.finger(4, what), last[what]);
+            due("before the first", x.finger(-1, what), UNKNOWN);
+            due("after the last", x.finger(5, what), UNKNOWN);
+        }
+    }
+
+    private static void fingerErrors() {
         sentence(14, "STATE if there is no panel; UNKNOWN if there is no such finger; OUTSIDE if what is out of range.");
         due("no panel", new FeltGlass().finger(0, 0), STATE);
         due("no panel, no finger", new FeltGlass().finger(5, 0), STATE);
         due("no panel, wrong what", new FeltGlass().finger(0, 4), STATE);
         FeltGlass x = Checks.panel(3, 3);
-        Checks.reads(x, "0@1,2*10;4@3,4*250", 2);
         for (int finger : new int[] {-1, 5, LOW, TOP, 256}) {
             for (int what : new int[] {0, 3, -1, 4}) due("finger " + finger, x.finger(finger, what), UNKNOWN);
         }
         for (int finger = 0; finger <= 4; finger++) {
             for (int what : new int[] {-1, 4, LOW, TOP}) due("what " + what, x.finger(finger, what), OUTSIDE);
-        }
-        int[] first = {1, 1, 2, 10}, last = {1, 3, 4, 250};
-        for (int what = 0; what <= 3; what++) {
-            due("the first finger", x.finger(0, what), first[what]);
-            due("the last finger", x.finger(4, what), last[what]);
         }
     }
 
@@ -593,18 +697,70 @@ public final class CallEdgesTest {
         FeltGlass x = Checks.panel(3, 3);
         Checks.raise(x, 0, 31);
         x.bound(1, 100);
-        int[] before = {3, 3, 0, 0, 0, 0, 0, 1, 0};
-        for (int what = 0; what <= 8; what++) due("no frame, about " + what, x.about(what), before[what]);
+        due("no frame", x.about(3), 0);
         x.frames(1);
         due("spread", x.about(3), 31);
-        due("noisy", x.about(4), 1);
         Checks.raise(x, 0, 30);
         due("still of the latest frame", x.about(3), 31);
         x.frames(1);
         due("spread", x.about(3), 30);
-        due("not noisy", x.about(4), 0);
         x.glass(3, 3);
-        for (int what = 0; what <= 8; what++) due("the next panel, about " + what, x.about(what), before[what]);
+        due("no frame on the next panel", x.about(3), 0);
+    }
+
+    private static void aboutNoisy() {
+        sentence(16, "4 whether the latest frame was noisy (1 or 0)");
+        FeltGlass x = Checks.panel(3, 3);
+        Checks.raise(x, 0, 31);
+        x.bound(1, 100);
+        due("no frame", x.about(4), 0);
+        x.frames(1);
+        due("noisy", x.about(4), 1);
+        Checks.raise(x, 0, 30);
+        due("still of the latest frame", x.about(4), 1);
+        x.frames(1);
+        due("not noisy", x.about(4), 0);
+        Checks.raise(x, 0, -31);
+        x.frames(1);
+        due("noisy again", x.about(4), 1);
+        x.glass(3, 3);
+        due("no frame on the next panel", x.about(4), 0);
+    }
+
+    private static void aboutSpotsAndTracks() {
+        sentence(16, "5 the number of spots of the latest frame, 6 the number of tracks");
+        FeltGlass x = touchedPanel(3, 3, 4);
+        due("no spots before a frame", x.about(5), 0);
+        due("no tracks before a frame", x.about(6), 0);
+        x.frames(1);
+        due("one spot", x.about(5), 1);
+        due("one track", x.about(6), 1);
+        Checks.raise(x, 4, 0);
+        x.frames(1);
+        due("no spot", x.about(5), 0);
+        due("a track that is held", x.about(6), 1);
+        x.frames(1);
+        due("no track", x.about(6), 0);
+        x = Busy.panel();
+        due("six spots", x.about(5), 6);
+        due("six tracks", x.about(6), 6);
+        x = Busy.noisyPanel();
+        due("no spots in a noisy frame", x.about(5), 0);
+        due("six tracks in a noisy frame", x.about(6), 6);
+    }
+
+    private static void aboutFrames() {
+        sentence(16, "8 the number of frames on this panel");
+        FeltGlass x = Checks.panel(3, 3);
+        due("none", x.about(8), 0);
+        x.frames(20);
+        x.frames(20);
+        due("forty", x.about(8), 40);
+        Checks.raise(x, 0, -31);
+        x.frames(1);
+        due("a noisy one is a frame too", x.about(8), 41);
+        x.glass(3, 3);
+        due("none on the next panel", x.about(8), 0);
     }
 
     // ---- Promise 17: spot
@@ -691,6 +847,17 @@ public final class CallEdgesTest {
         due("no fourth", x.track(3, 0), UNKNOWN);
     }
 
+    private static void trackPalm() {
+        sentence(18, "8 whether it is a palm (1 or 0)");
+        for (int size = 9; size <= 11; size++) {
+            FeltGlass x = Checks.still(8, 8);
+            for (int cell = 0; cell < size; cell++) Checks.raise(x, cell, 50);
+            x.frames(1);
+            due("size", x.track(0, 3), size);
+            due("palm with " + size + " cells", x.track(0, 8), size >= 10 ? 1 : 0);
+        }
+    }
+
     // ---- Promise 19: as
 
     private static void asKinds() {
@@ -703,6 +870,24 @@ public final class CallEdgesTest {
         due("no palm, cast to a palm", x.as(0, 1), NONE);
         due("a palm, cast to no palm", x.as(1, 0), NONE);
         due("a palm, cast to a palm", x.as(1, 1), 2);
+    }
+
+    private static void asPalmOrNot() {
+        sentence(19, "0 for a track that is not a palm, 1 for a palm");
+        FeltGlass x = touchedPanel(5, 3, 5);
+        x.bound(PALM, 2);
+        x.frames(3);
+        due("no palm", x.track(0, 8), 0);
+        due("as 0", x.as(0, 0), 1);
+        due("as 1", x.as(0, 1), NONE);
+        Checks.raise(x, 6, 30);
+        x.frames(1);
+        due("a palm", x.track(0, 8), 1);
+        due("as 0 then", x.as(0, 0), NONE);
+        due("as 1 then", x.as(0, 1), 1);
+        Checks.raise(x, 6, 0);
+        x.frames(1);
+        due("as 1 for ever", x.as(0, 1), 1);
     }
 
     private static void asRange() {
@@ -789,6 +974,41 @@ public final class CallEdgesTest {
         due("noisy frames are counted", x.event(0, 2), 5);
     }
 
+    private static void eventLatestFirst() {
+        sentence(20, "the index of the event, 0 for the latest one");
+        FeltGlass x = Checks.still(3, 3);
+        x.bound(HOLD, 0);
+        for (int written = 1; written <= 12; written++) nextEvent(x, written - 1);
+        for (int place = 0; place < 12; place++) {
+            due("track at " + place, x.event(place, 1), 6 - place / 2);
+            due("sort at " + place, x.event(place, 0), place % 2 == 0 ? 4 : 1);
+        }
+        due("before the latest", x.event(-1, 0), UNKNOWN);
+        due("after the twelfth", x.event(12, 0), UNKNOWN);
+    }
+
+    private static void eventSorts() {
+        sentence(20, "0 its sort, 1 to 4");
+        FeltGlass x = Checks.still(3, 3);
+        x.bound(HOLD, 0);
+        x.bound(PALM, 2);
+        x.bound(TAP, 2);
+        // Down and tap, down and up, down and called off.
+        for (int frames = 2; frames <= 3; frames++) {
+            Checks.raise(x, 4, 50);
+            x.frames(frames);
+            Checks.raise(x, 4, 0);
+            x.frames(1);
+        }
+        Checks.raise(x, 4, 50);
+        x.frames(2);
+        Checks.raise(x, 5, 30);
+        x.frames(1);
+        int[] sorts = {3, 1, 2, 1, 4, 1};
+        for (int place = 0; place < 6; place++) due("sort at " + place, x.event(place, 0), sorts[place]);
+        due("no event before", x.event(6, 0), UNKNOWN);
+    }
+
     private static void eventRange() {
         sentence(20, "UNKNOWN if there is no such event; OUTSIDE if what is out of range.");
         due("no panel", new FeltGlass().event(0, 0), UNKNOWN);
@@ -820,6 +1040,18 @@ public final class CallEdgesTest {
         for (int what = 0; what <= 5; what++) due("count(" + what + ")", Busy.panel().count(what), counts[what]);
     }
 
+    private static void countCharacters() {
+        sentence(21, "0 characters of the page");
+        FeltGlass x = new FeltGlass();
+        for (int length = 0; length <= 40; length++) {
+            due("count(0)", x.count(0), length);
+            x.letter(126);
+        }
+        due("count(0) after a letter too many", x.count(0), 40);
+        x.blank();
+        due("count(0) after blank()", x.count(0), 0);
+    }
+
     private static void countsOfAllPanels() {
         sentence(21, "1 frames on all panels, 2 noisy frames on all panels, 3 tracks that have ever begun, 4 texts of"
             + " fingers that were read, 5 panels that were created");
@@ -842,12 +1074,18 @@ public final class CallEdgesTest {
 
     // ---- Promise 22: events
 
-    private static void eventsRange() {
+    private static void eventsErrors() {
         sentence(22, "Returns the number; OUTSIDE if sort is out of range.");
-        for (FeltGlass x : new FeltGlass[] {new FeltGlass(), Busy.panel()}) {
+        for (FeltGlass x : new FeltGlass[] {new FeltGlass(), Checks.panel(3, 3), Busy.panel()}) {
             for (int sort : new int[] {0, 5, -1, LOW, TOP, 256 + 1}) due("events(" + sort + ")", x.events(sort), OUTSIDE);
         }
+    }
+
+    private static void eventsRange() {
+        sentence(22, "the sort, 1 to 4");
         for (int sort = 1; sort <= 4; sort++) due("none at first", new FeltGlass().events(sort), 0);
+        int[] counts = {12, 0, 0, 6};
+        for (int sort = 1; sort <= 4; sort++) due("events " + sort, Busy.panel().events(sort), counts[sort - 1]);
     }
 
     private static void eventsEver() {
@@ -885,29 +1123,77 @@ public final class CallEdgesTest {
         due("the same as of the numbers", x.digest(), hashOf(x, ""));
         Checks.type(x, " ~");
         due("a page", x.digest(), Checks.hash(1583, 32, 126, 2, 0, 0, 0, 0, 0, 0, 0, 0, 0));
-        x.blank();
-        String full = "The page is a text of at most 40 letters";
-        Checks.type(x, full);
-        due("a full page", x.digest(), hashOf(x, full));
     }
 
-    private static void digestOfAllThereIs() {
-        sentence(23, "for each event that is kept, the latest first, those of event() for 0 to 2");
-        FeltGlass x = Checks.panel(3, 3);
-        due("no frame", x.digest(), hashOf(x, ""));
-        x = touchedPanel(3, 3, 4);
+    private static void digestOfAPanel() {
+        sentence(23, "the results of about() for 0 to 8, for each finger those of finger() for 0 to 3, for each cell"
+            + " those of cell() for 0 to 5, for each spot those of spot() for 0 to 5, for each track those of track()"
+            + " for 0 to 8");
+        for (int[] size : new int[][] {{3, 3}, {5, 4}, {4, 8}}) {
+            FeltGlass x = Checks.panel(size[0], size[1]);
+            due("no frame, no spot, no track", x.digest(), hashOf(x, ""));
+        }
+        FeltGlass x = touchedPanel(3, 3, 4);
         x.frames(1);
-        due("a spot and no event", x.digest(), hashOf(x, ""));
-        x.frames(1);
-        due("an event", x.digest(), hashOf(x, ""));
+        due("a spot and a track", x.digest(), hashOf(x, ""));
         x = Busy.panel();
         due("six spots", x.about(5), 6);
         due("six tracks", x.about(6), 6);
-        due("twelve events", x.event(11, 0), 4);
         due("all of them", x.digest(), hashOf(x, Busy.PAGE));
         x = Busy.noisyPanel();
         due("no spots", x.about(5), 0);
         due("a noisy frame", x.digest(), hashOf(x, Busy.PAGE));
+    }
+
+    private static void digestOfEvents() {
+        sentence(23, "for each event that is kept, the latest first, those of event() for 0 to 2");
+        FeltGlass x = touchedPanel(3, 3, 4);
+        x.bound(HOLD, 0);
+        x.frames(1);
+        due("no event", x.digest(), hashOf(x, ""));
+        x.frames(1);
+        due("one event", x.digest(), hashOf(x, ""));
+        Checks.raise(x, 4, 0);
+        x.frames(1);
+        due("two events", x.digest(), hashOf(x, ""));
+        x = Checks.still(3, 3);
+        x.bound(HOLD, 0);
+        for (int written = 1; written <= 12; written++) nextEvent(x, written - 1);
+        due("twelve events", x.digest(), hashOf(x, ""));
+        nextEvent(x, 12);
+        due("the thirteenth", x.digest(), hashOf(x, ""));
+        x.glass(3, 3);
+        due("on the next panel", x.digest(), hashOf(x, ""));
+    }
+
+    private static void digestOfThePage() {
+        sentence(23, "the characters of the page");
+        FeltGlass x = new FeltGlass();
+        String full = "The page is a text of at most 40 letters";
+        for (int length = 0; length <= 40; length++) {
+            due("a page of " + length, x.digest(), hashOf(x, full.substring(0, length)));
+            if (length < 40) x.letter(full.charAt(length));
+            if (length % 20 == 19) {
+                x = new FeltGlass();
+                Checks.type(x, full.substring(0, length + 1));
+            }
+        }
+        x.blank();
+        due("an empty page again", x.digest(), Checks.hash(1583, 0, 0, 0, 0, 0, 0, 0, 0, 0, 0));
+    }
+
+    private static void digestOverflows() {
+        sentence(23, "It begins with h = 1583; for each of the following numbers, in this order, h becomes 31 * h plus"
+            + " the number, in long arithmetic with overflow");
+        // 31 to the power of 11 or more, times 1583, is beyond a long.
+        FeltGlass x = new FeltGlass();
+        x.letter(126);
+        BigInteger h = BigInteger.valueOf(1583);
+        for (int number : new int[] {126, 1, 0, 0, 0, 0, 0, 0, 0, 0, 0}) {
+            h = h.multiply(BigInteger.valueOf(31)).add(BigInteger.valueOf(number));
+        }
+        Checks.holds("the sum is beyond a long", h.bitLength() > 63);
+        due("digest()", x.digest(), h.longValue());
     }
 
     private static void digestChangesNothing() {

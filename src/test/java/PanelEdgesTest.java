@@ -33,6 +33,7 @@ public final class PanelEdgesTest {
         nextDrive();
         noisyFrameHasNoSpots();
         furtherStepsOmitted();
+        greatestNeighbour();
         lowestOfSeveral();
         goesOnToThePeak();
         noTouchedCell();
@@ -590,6 +591,23 @@ public final class PanelEdgesTest {
         x = hills(8, 3, 100, 9, 50, 10, 50);
         due("one spot", x.about(5), 1);
         due("peak", x.spot(0, 0), 9);
+    }
+
+    private static void greatestNeighbour() {
+        step(3, "From a touched cell one goes to the cell with the greatest delta among it and its neighbours");
+        int[] around = {6, 7, 8, 11, 13, 16, 17, 18};
+        for (int one : around) {
+            due("from 12 to " + one, hills(5, 5, 100, 12, 59, one, 60).spot(0, 0), one);
+            due("not from 12 to " + one, hills(5, 5, 100, 12, 60, one, 59).spot(0, 0), 12);
+            for (int other : around) {
+                if (near(5, one, other)) continue;
+                FeltGlass x = hills(5, 5, 100, 12, 30, one, 60, other, 59);
+                due("two spots", x.about(5), 2);
+                due("12 beside " + one + " with 60 and " + other + " with 59", x.cell(12, 4), x.cell(one, 4));
+                x = hills(5, 5, 100, 12, 30, one, 60, other, 60);
+                due("12 beside " + one + " and " + other + " with 60", x.cell(12, 4), 0);
+            }
+        }
     }
 
     private static void goesOnToThePeak() {

@@ -21,6 +21,7 @@ public final class TextEdgesTest {
         powerRange();
         lastPartCounts();
         letterCodes();
+        letterOutside();
         letterNewLength();
         letterOnAFullPage();
         letterErrorsInOrder();
@@ -231,9 +232,17 @@ public final class TextEdgesTest {
             long page = right ? Checks.hash(1583, code, 1) : Checks.hash(1583, 0);
             due("digest() after letter(" + code + ")", x.digest(), Checks.hash(page, 0, 0, 0, 0, 0, 0, 0, 0, 0));
         }
-        // Codes that become a right one if they are cut short.
-        int[] far = {LOW, TOP, LOW + 48, 65536 + 48, 256 + 48, -65536 + 48, -48};
-        for (int code : far) due("letter(" + code + ")", new FeltGlass().letter(code), OUTSIDE);
+    }
+
+    private static void letterOutside() {
+        sentence(LETTER, "OUTSIDE if code is out of range");
+        // Some become a right code if they are cut short.
+        int[] far = {31, 127, 0, -1, LOW, TOP, LOW + 48, 65536 + 48, 256 + 48, -65536 + 48, -48};
+        FeltGlass x = new FeltGlass();
+        for (int code : far) due("letter(" + code + ")", x.letter(code), OUTSIDE);
+        due("the first letter", x.letter(48), 1);
+        for (int code : far) due("letter(" + code + ")", x.letter(code), OUTSIDE);
+        due("the second letter", x.letter(48), 2);
     }
 
     private static void letterNewLength() {

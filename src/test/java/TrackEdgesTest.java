@@ -23,6 +23,7 @@ public final class TrackEdgesTest {
         pathLength();
         pairedTrackGetsTheSpot();
         missedBecomesZero();
+        missedIncreases();
         palmAtThePalmSize();
         palmForEver();
         calledOffAboveAgeTwo();
@@ -391,6 +392,20 @@ public final class TrackEdgesTest {
             due("age", x.track(0, 5), 2 + round);
         }
         due("the same track", x.track(0, 0), 1);
+    }
+
+    private static void missedIncreases() {
+        step(6, "its number of missed frames increases by 1");
+        FeltGlass x = still(3, 3);
+        x.bound(HOLD, 9);
+        touch(x, 4);
+        due("none at first", x.track(0, 6), 0);
+        for (int missed = 1; missed <= 9; missed++) {
+            touch(x);
+            due("missed", x.track(0, 6), missed);
+            due("the age stays", x.track(0, 5), 1);
+            due("X stays", x.track(0, 1), 16);
+        }
     }
 
     /** Raises the first so many cells, which form one spot. */
