@@ -39,6 +39,8 @@ public final class PanelEdgesTest {
         noTouchedCell();
         greatestPass();
         noPass();
+        passInAllDirections();
+        passOfAMergedHill();
         mergedAtThePercentage();
         leastAndGreatestPercentage();
         smallerPeakCounts();
@@ -664,6 +666,52 @@ public final class PanelEdgesTest {
         due("a cell at the threshold between", hills(8, 3, 1, 9, 100, 10, 20, 11, 100).about(5), 1);
         due("far apart", hills(8, 8, 1, 0, 100, 63, 100).about(5), 2);
         due("the end of a row and the begin of the next", hills(8, 3, 1, 7, 100, 8, 100).about(5), 2);
+        FeltGlass x = hills(8, 3, 1, 9, 100, 10, 90, 11, 100);
+        due("a pass in one frame", x.about(5), 1);
+        raise(x, 10, 19);
+        x.frames(1);
+        due("is none in the next one", x.about(5), 2);
+    }
+
+    /** Cells one and other, and beside each a peak that the other one does not see: their only pass is 55. */
+    private static void passBetween(int one, int other) {
+        for (int peak = 0; peak < 25; peak++) {
+            for (int otherPeak = 0; otherPeak < 25; otherPeak++) {
+                boolean apart = !near(5, peak, other) && !near(5, otherPeak, one) && !near(5, peak, otherPeak);
+                if (!apart || !near(5, peak, one) || !near(5, otherPeak, other)) continue;
+                int[] deltas = {one, 60, other, 55, peak, 100, otherPeak, 101};
+                String way = " over " + one + " and " + other + " from " + peak + " to " + otherPeak;
+                due("at 55" + way, hills(5, 5, 55, deltas).about(5), 1);
+                due("above 55" + way, hills(5, 5, 56, deltas).about(5), 2);
+            }
+        }
+    }
+
+    private static void passInAllDirections() {
+        step(3, "over all pairs of neighbouring cells of which one belongs to each hill");
+        for (int one = 0; one < 25; one++) {
+            for (int other = 0; other < 25; other++) {
+                if (one != other && near(5, one, other)) passBetween(one, other);
+            }
+        }
+    }
+
+    private static void passOfAMergedHill() {
+        step(3, "The pass of two hills is the greatest value, over all pairs of neighbouring cells");
+        // The hill in the middle is merged first; its pass to the third one is that of both then.
+        int[][] rows = {{100, 65, 70, 57, 100}, {100, 57, 70, 65, 100}};
+        for (int[] row : rows) {
+            int[] deltas = {9, row[0], 10, row[1], 11, row[2], 12, row[3], 13, row[4]};
+            due("at 57", hills(8, 3, 57, deltas).about(5), 1);
+            due("above 57", hills(8, 3, 58, deltas).about(5), 2);
+        }
+        // The same where the one that is merged first has the lowest peak, 2, and then where it has the highest.
+        int[] low = {2, 70, 6, 65, 10, 100, 8, 57, 14, 100};
+        due("the lowest, at 57", hills(5, 3, 57, low).about(5), 1);
+        due("the lowest, above 57", hills(5, 3, 58, low).about(5), 2);
+        int[] high = {12, 70, 6, 65, 0, 100, 8, 57, 4, 100};
+        due("the highest, at 57", hills(5, 3, 57, high).about(5), 1);
+        due("the highest, above 57", hills(5, 3, 58, high).about(5), 2);
     }
 
     private static void mergedAtThePercentage() {
@@ -916,7 +964,9 @@ public final class PanelEdgesTest {
                 due("Y of " + cell, x.spot(0, 4), 16 * (cell / size[0]));
             }
         }
-        // 16 * 59 / 119 = 7.93, 16 * 60 / 120 = 8.
+        // 16 * 31 / 71 = 6.99, 16 * 59 / 119 = 7.93, 16 * 60 / 120 = 8.
+        due("X just below 7", hills(8, 3, 1, 8, 40, 9, 31).spot(0, 3), 6);
+        due("Y just below 7", hills(3, 8, 1, 1, 40, 4, 31).spot(0, 4), 6);
         due("X below 8", hills(8, 3, 1, 8, 60, 9, 59).spot(0, 3), 7);
         due("X of 8", hills(8, 3, 1, 8, 60, 9, 60).spot(0, 3), 8);
         due("Y below 8", hills(3, 8, 1, 1, 60, 4, 59).spot(0, 4), 7);

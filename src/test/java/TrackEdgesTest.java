@@ -16,6 +16,7 @@ public final class TrackEdgesTest {
         noTrackOrNoSpot();
         sixOfEach();
         mostPairs();
+        pairsAfterATrackHasGone();
         smallestSumOfSquares();
         differencesOfXAndOfY();
         lexicographicallySmallest();
@@ -253,6 +254,26 @@ public final class TrackEdgesTest {
         due("two pairs at the most", x.spot(0, 5), 2);
         due("the third", x.spot(1, 5), 3);
         due("a new one", x.spot(2, 5), 4);
+    }
+
+    private static void pairsAfterATrackHasGone() {
+        step(5, "Of all ways to pair them, the one with the most pairs is taken");
+        FeltGlass x = still(8, 3);
+        x.bound(REACH, 127);
+        x.bound(HOLD, 0);
+        touch(x, 8, 11);
+        touch(x, 10);
+        due("the nearer track", x.spot(0, 5), 2);
+        due("the other one has gone", x.about(6), 1);
+        touch(x, 12);
+        due("what stays has the only spot, though it is further away", x.spot(0, 5), 2);
+        touch(x, 8, 10, 12, 14);
+        touch(x, 15);
+        due("the last one of four", x.about(6), 1);
+        due("goes on", x.track(0, 5), 2);
+        touch(x, 8);
+        due("and over the whole panel", x.track(0, 5), 3);
+        due("path", x.track(0, 7), 128);
     }
 
     private static void smallestSumOfSquares() {
