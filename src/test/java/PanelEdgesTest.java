@@ -432,8 +432,8 @@ public final class PanelEdgesTest {
     // ---- A FRAME, step 2: noise
 
     private static void spreadOfQuietCells() {
-        step(2, "The spread is the greatest minus the smallest delta of all cells that are neither touched nor neighbours"
-            + " of a touched cell");
+        step(2, "The spread is the greatest minus the smallest delta of all cells that are neither touched nor"
+            + " neighbours of a touched cell");
         FeltGlass x = still(3, 3);
         x.frames(1);
         due("all equal", x.about(3), 0);
@@ -715,8 +715,8 @@ public final class PanelEdgesTest {
     }
 
     private static void mergedAtThePercentage() {
-        step(3, "Two hills can be merged if they have a pass, and 100 * pass is at least the valley percentage times the"
-            + " smaller one of the deltas of both peaks.");
+        step(3, "Two hills can be merged if they have a pass, and 100 * pass is at least the valley percentage times"
+            + " the smaller one of the deltas of both peaks.");
         due("80 of 100 at 80", hills(8, 3, 80, 9, 100, 10, 80, 11, 100).about(5), 1);
         due("79 of 100 at 80", hills(8, 3, 80, 9, 100, 10, 79, 11, 100).about(5), 2);
         due("81 of 100 at 80", hills(8, 3, 80, 9, 100, 10, 81, 11, 100).about(5), 1);
@@ -804,8 +804,8 @@ public final class PanelEdgesTest {
     }
 
     private static void mergedHillIsKnownByItsPeak() {
-        step(3, "of several pairs, the one whose lower peak (by cell number) is lowest, then the one whose other peak is"
-            + " lowest");
+        step(3, "of several pairs, the one whose lower peak (by cell number) is lowest, then the one whose other peak"
+            + " is lowest");
         // 0 is merged with 16 first, whose peak stays; then 2 is between 16 and 4, and 4 is the lower one.
         FeltGlass x = hills(8, 8, 80, 0, 90, 8, 85, 16, 100, 1, 58, 2, 70, 3, 58, 4, 100);
         due("two spots", x.about(5), 2);
@@ -851,8 +851,8 @@ public final class PanelEdgesTest {
     }
 
     private static void peakOfTheMergedHill() {
-        step(3, "The peak of the merged hill is the one of both peaks with the greater delta, and the one with the lower"
-            + " number if both are equal.");
+        step(3, "The peak of the merged hill is the one of both peaks with the greater delta, and the one with the"
+            + " lower number if both are equal.");
         due("the greater one is higher", hills(8, 3, 1, 9, 60, 10, 30, 11, 61).spot(0, 0), 11);
         due("both are equal", hills(8, 3, 1, 9, 61, 10, 30, 11, 61).spot(0, 0), 9);
         due("the greater one is lower", hills(8, 3, 1, 9, 62, 10, 30, 11, 61).spot(0, 0), 9);

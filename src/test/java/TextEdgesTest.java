@@ -138,7 +138,8 @@ public final class TextEdgesTest {
     }
 
     private static void minusOrPlace() {
-        sentence(PAGE, "followed by a minus sign if the finger is off, or by @, u, a comma, v, an asterisk and the power");
+        sentence(PAGE, "followed by a minus sign if the finger is off, or by @, u, a comma, v, an asterisk and the"
+            + " power");
         for (int finger = 0; finger <= 4; finger++) canStand(3, 3, String.valueOf(finger), "-@");
         canStand(8, 8, "0@7", ",");
         canStand(8, 8, "0@7,7", "*");

@@ -324,8 +324,8 @@ public final class TrackEdgesTest {
     }
 
     private static void lexicographicallySmallest() {
-        step(5, "of several, the lexicographically smallest one, where the tracks are compared by ascending identifiers,"
-            + " by the numbers of their spots");
+        step(5, "of several, the lexicographically smallest one, where the tracks are compared by ascending"
+            + " identifiers, by the numbers of their spots");
         FeltGlass x = still(8, 3);
         x.bound(REACH, 32);
         touch(x, 11);
