@@ -11,6 +11,12 @@ final class Checks {
     /** Names the words of the document, and where they stand, that the following checks are about. */
     static void sentence(String where, String words) {
         sentence = where + ", \"" + words + "\": ";
+        holds("that these words stand there", Document.quote(where, words));
+    }
+
+    /** Names something else than words of the document. */
+    static void about(String what) {
+        sentence = what + ": ";
     }
 
     static void due(String call, long got, long want) {
