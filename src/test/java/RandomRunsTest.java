@@ -3,7 +3,7 @@ import java.util.Random;
 /** Long runs of random calls, each answer compared with that of PlainGlass. */
 public final class RandomRunsTest {
     // The last step of a run may make five calls more; only 512 calls of an object have promised answers.
-    private static final int RUNS = 400, CALLS = 507;
+    private static final int RUNS = 400, CROWDED_RUNS = 200, CALLS = 507;
     private static int wrong;
 
     private final Random random;
@@ -21,6 +21,9 @@ public final class RandomRunsTest {
         for (int run = 0; run < RUNS && wrong < 20; run++) {
             new RandomRunsTest(run).go();
         }
+        for (int run = RUNS; run < RUNS + CROWDED_RUNS && wrong < 20; run++) {
+            new RandomRunsTest(run).goCrowded();
+        }
         System.out.println(wrong == 0 ? "random runs agree" : wrong + " random answers differ");
         if (wrong != 0) System.exit(1);
     }
@@ -35,6 +38,27 @@ public final class RandomRunsTest {
             if (random.nextInt(4) == 0) same("digest()", real.digest(), plain.digest());
         }
         same("digest()", real.digest(), plain.digest());
+    }
+
+    /** Many hills of few heights on a great panel: passes, masses and ways to pair that are equal, and full tracks. */
+    private void goCrowded() {
+        int w = between(5, 8), h = between(5, 8);
+        same("glass(" + w + ", " + h + ")", real.glass(w, h), plain.glass(w, h));
+        bound(0, between(20, 40));
+        bound(2, random.nextBoolean() ? between(30, 100) : 100);
+        bound(3, between(3, 30));
+        bound(4, between(8, 60));
+        bound(5, between(0, 3));
+        bound(7, random.nextInt(3));
+        bound(8, 200);
+        while (calls < CALLS) {
+            for (int i = between(1, 12); i > 0 && calls < CALLS; i--) {
+                air(between(0, w * h - 1), random.nextBoolean() ? 100 : 100 + 20 * between(1, 4));
+            }
+            frames(random.nextInt(4) == 0 ? 2 : 1);
+            if (random.nextInt(8) == 0) bound(4, between(8, 60));
+            same("digest()", real.digest(), plain.digest());
+        }
     }
 
     private void same(String call, long got, long want) {
